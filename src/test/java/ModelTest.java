@@ -1,0 +1,98 @@
+import java.util.Map;
+import java.util.TreeMap;
+
+/** All promises: objects used for 512 mixed calls each, every answer held against the model's. */
+public final class ModelTest {
+    private static final Checks CHECKS = new Checks();
+    private static final int OBJECTS = 3000;
+    private static final int CALLS = 512;
+    private static final int[] INTS = {
+        0, 0, 1, 1, -1, 2, -3, 7, 10, 37, -100, 99999999, 100000000, -100000000, 999999999, 1000000007,
+        1073741823, 1073741824, -1073741825, Integer.MAX_VALUE, Integer.MIN_VALUE};
+
+    // A plain generator with a fixed start, so that every run of the test makes the same calls.
+    private static long state = 20261115;
+    private static final Map<Integer, Integer> outcomes = new TreeMap<>();
+    private static final Map<Integer, Integer> emitAnswers = new TreeMap<>();
+
+    public static void main(String[] args) {
+        for (int i = 0; i < OBJECTS; i++) {
+            useOneObject(i);
+        }
+        System.out.println("answers of run: " + outcomes);
+        System.out.println("answers of emit, those of 0 and more as 0: " + emitAnswers);
+        CHECKS.due("kinds of answers of run", outcomes.size(), 4);
+        CHECKS.due("kinds of answers of emit", emitAnswers.size(), 9);
+        CHECKS.finish();
+    }
+
+    private static int below(int bound) {
+        state = state * 6364136223846793005L + 1442695040888963407L;
+        return (int) ((state >>> 33) % bound);
+    }
+
+    private static int someInt() {
+        return below(3) == 0 ? below(1 << 30) * 2 - (1 << 30) : INTS[below(INTS.length)];
+    }
+
+    private static int someVariable() {
+        return below(40) == 0 ? below(12) - 2 : below(8);
+    }
+
+    private static void useOneObject(int number) {
+        FixnumBailout machine = new FixnumBailout();
+        Model model = new Model();
+        // Objects differ in how many of their calls build programs, so that short and full ones both come up.
+        int emits = 30 + below(60);
+        for (int i = 0; i < CALLS; i++) {
+            String call = "object " + number + ", call " + i + ": ";
+            if (below(100) < emits) {
+                emitOne(machine, model, call);
+            } else {
+                otherCall(machine, model, call);
+            }
+        }
+    }
+
+    private static void emitOne(FixnumBailout machine, Model model, String call) {
+        int op = below(60) == 0 ? below(16) - 2 : below(12);
+        // Operations on two numbers are wanted more often than their share.
+        if (below(3) == 0) {
+            op = 1 + below(7);
+        }
+        int argument = op == 0 ? someInt() : op == 10 ? below(20) == 0 ? below(10) - 1 : 1 + below(6) : someVariable();
+        int got = machine.emit(op, argument);
+        CHECKS.due(call + "emit(" + op + ", " + argument + ")", got, model.emit(op, argument));
+        emitAnswers.merge(Math.min(got, 0), 1, Integer::sum);
+    }
+
+    private static void otherCall(FixnumBailout machine, Model model, String call) {
+        int v = someVariable();
+        int w = someVariable();
+        int i = below(50) - 3;
+        switch (below(14)) {
+            case 0 -> {
+                if (below(4) == 0 || model.tokens() == 40) {
+                    machine.clear();
+                    model.clear();
+                }
+            }
+            case 1 -> {
+                int value = someInt();
+                CHECKS.due(call + "set(" + v + ", " + value + ")", machine.set(v, value), model.set(v, value));
+            }
+            case 2 -> CHECKS.due(call + "tokens()", machine.tokens(), model.tokens());
+            case 3 -> CHECKS.due(call + "sign(" + v + ")", machine.sign(v), model.sign(v));
+            case 4 -> CHECKS.due(call + "digits(" + v + ")", machine.digits(v), model.digits(v));
+            case 5, 6 -> CHECKS.due(call + "digit(" + v + ", " + i + ")", machine.digit(v, i), model.digit(v, i));
+            case 7 -> CHECKS.due(call + "compare(" + v + ", " + w + ")", machine.compare(v, w), model.compare(v, w));
+            case 8 -> CHECKS.due(call + "isInt(" + v + ")", machine.isInt(v), model.isInt(v));
+            case 9 -> CHECKS.due(call + "asInt(" + v + ")", machine.asInt(v), model.asInt(v));
+            default -> {
+                int got = machine.run();
+                CHECKS.due(call + "run()", got, model.run());
+                outcomes.merge(got, 1, Integer::sum);
+            }
+        }
+    }
+}
