@@ -45,7 +45,7 @@ public final class FixnumBailout {
     private static final long BASE = 100000000L;
     private static final int PRODUCT_LIMBS = 2 * LIMBS;
 
-    // In a long division the remainder is one limb longer than the divisor.
+    // A multiple of a divisor may need one limb more than a number; the remainder is as long, to be compared with it.
     private static final int LONG_LIMBS = LIMBS + 1;
 
     // BASE is below 2 to the 27th, so the bits 26 to 0 make up any limb of a quotient.
@@ -374,16 +374,6 @@ public final class FixnumBailout {
         if (signs[y] == 0) {
             return ZERO_DIVIDE;
         }
-        divideMagnitudes(x, y);
-        if (op == DIV) {
-            writeNumber(x, quotient, signs[x] * signs[y]);
-        } else {
-            writeNumber(x, remainder, signs[x]);
-        }
-        return DONE;
-    }
-
-    private void divideMagnitudes(int x, int y) {
         for (int i = 0; i < LONG_LIMBS; i++) {
             remainder[i] = 0;
         }
@@ -391,6 +381,12 @@ public final class FixnumBailout {
             bringDown(limbs[x * LIMBS + i]);
             quotient[i] = takeOutMultiples(y);
         }
+        if (op == DIV) {
+            writeNumber(x, quotient, signs[x] * signs[y]);
+        } else {
+            writeNumber(x, remainder, signs[x]);
+        }
+        return DONE;
     }
 
     private void bringDown(long limb) {

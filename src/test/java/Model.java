@@ -101,7 +101,7 @@ final class Model {
         return 0 <= variable && variable <= 7;
     }
 
-    private int depth() {
+    int depth() {
         int depth = 0;
         for (int[] token : program) {
             depth += token[0] <= 1 ? 1 : token[0] <= 9 ? -1 : 0;
@@ -109,7 +109,7 @@ final class Model {
         return depth;
     }
 
-    private int open() {
+    int open() {
         int open = 0;
         for (int[] token : program) {
             open += token[0] == 9 || token[0] == 10 ? 1 : token[0] == 11 ? -1 : 0;

@@ -44,23 +44,46 @@ public final class ModelTest {
         Model model = new Model();
         // Objects differ in how many of their calls build programs, so that short and full ones both come up.
         int emits = 30 + below(60);
+        boolean finishing = false;
         for (int i = 0; i < CALLS; i++) {
             String call = "object " + number + ", call " + i + ": ";
-            if (below(100) < emits) {
-                emitOne(machine, model, call);
+            // A full program refuses all tokens: most of the calls should meet another.
+            if (model.tokens() == 40 && below(8) == 0) {
+                machine.clear();
+                model.clear();
+                finishing = false;
+                continue;
+            }
+            boolean unfinished = model.depth() != 0 || model.open() != 0;
+            if (finishing && unfinished && model.tokens() < 40) {
+                emit(machine, model, call, model.depth() != 0 ? 2 : 11, below(8));
+            } else if (finishing) {
+                run(machine, model, call);
+                finishing = false;
+            } else if (below(100) < emits) {
+                emitSome(machine, model, call);
+                finishing = below(30) == 0 || model.tokens() == 32;
             } else {
                 otherCall(machine, model, call);
             }
         }
     }
 
-    private static void emitOne(FixnumBailout machine, Model model, String call) {
-        int op = below(60) == 0 ? below(16) - 2 : below(12);
-        // Operations on two numbers are wanted more often than their share.
-        if (below(3) == 0) {
-            op = 1 + below(7);
+    private static void emitSome(FixnumBailout machine, Model model, String call) {
+        int op = below(12);
+        int kind = below(60);
+        if (kind == 0) {
+            op = below(16) - 2;
+        } else if (kind < 45 && model.depth() >= 2) {
+            op = kind < 6 ? below(2) : kind < 20 ? 5 : 3 + below(6);
+        } else if (kind < 40) {
+            op = kind < 3 ? 10 : kind < 12 && model.depth() == 1 ? 2 : below(2);
         }
         int argument = op == 0 ? someInt() : op == 10 ? below(20) == 0 ? below(10) - 1 : 1 + below(6) : someVariable();
+        emit(machine, model, call, op, argument);
+    }
+
+    private static void emit(FixnumBailout machine, Model model, String call, int op, int argument) {
         int got = machine.emit(op, argument);
         CHECKS.due(call + "emit(" + op + ", " + argument + ")", got, model.emit(op, argument));
         emitAnswers.merge(Math.min(got, 0), 1, Integer::sum);
@@ -72,7 +95,7 @@ public final class ModelTest {
         int i = below(50) - 3;
         switch (below(14)) {
             case 0 -> {
-                if (below(4) == 0 || model.tokens() == 40) {
+                if (below(4) == 0) {
                     machine.clear();
                     model.clear();
                 }
@@ -88,11 +111,13 @@ public final class ModelTest {
             case 7 -> CHECKS.due(call + "compare(" + v + ", " + w + ")", machine.compare(v, w), model.compare(v, w));
             case 8 -> CHECKS.due(call + "isInt(" + v + ")", machine.isInt(v), model.isInt(v));
             case 9 -> CHECKS.due(call + "asInt(" + v + ")", machine.asInt(v), model.asInt(v));
-            default -> {
-                int got = machine.run();
-                CHECKS.due(call + "run()", got, model.run());
-                outcomes.merge(got, 1, Integer::sum);
-            }
+            default -> run(machine, model, call);
         }
+    }
+
+    private static void run(FixnumBailout machine, Model model, String call) {
+        int got = machine.run();
+        CHECKS.due(call + "run()", got, model.run());
+        outcomes.merge(got, 1, Integer::sum);
     }
 }
