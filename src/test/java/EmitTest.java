@@ -1,240 +1,383 @@
-/** Promises 1, 2, 3 and 6: a new object, emit, clear, tokens. */
+/** Promises 1, 2, 3 and 6, sentence by sentence: a new object, emit, clear, tokens. */
 public final class EmitTest {
     private static final Checks CHECKS = new Checks();
     private static final int MIN = Integer.MIN_VALUE;
     private static final int MAX = Integer.MAX_VALUE;
+    private static final int[] EMPTY = {};
+    private static final int[] OUTSIDE_0_TO_7 = {-1, 8, MIN, MAX};
+    private static final int[] OUTSIDE_1_TO_6 = {0, 7, -1, MIN, MAX};
+    private static final int[] FULL = Programs.closed(40);
 
     public static void main(String[] args) {
         newObject();
-        badOps();
-        badArguments();
-        ignoredArguments();
+        badOp();
+        codeFull();
+        badVariable();
+        badRounds();
+        argumentsNotLookedAt();
+        anyIntForPush();
         stackLow();
         stackHigh();
-        notEmpty();
+        notEmptyForIf();
+        notEmptyForRepeatAndEnd();
         tooDeep();
         noBlock();
-        codeFull();
-        orderOfTests();
+        codeFullComesSecond();
+        badArgumentComesThird();
+        depthComesBeforeBlocks();
         refusedCallsChangeNothing();
-        clearDropsTokensAlone();
+        indexOfTheToken();
+        clearDropsAllTokens();
+        clearLetsVariablesStay();
+        howManyTokens();
         CHECKS.finish();
     }
 
-    private static FixnumBailout with(int... pairs) {
-        FixnumBailout machine = new FixnumBailout();
-        Ops.emitAll(machine, pairs);
-        return machine;
+    private static void accepted(int[] program, int op, int argument) {
+        FixnumBailout machine = Machines.with(program);
+        int index = program.length / 2;
+        String call = "emit(" + op + ", " + argument + ") behind " + index;
+        CHECKS.due(call, machine.emit(op, argument), index);
+        CHECKS.due("tokens() after " + call, machine.tokens(), index + 1);
     }
 
-    private static FixnumBailout withDepth(int depth) {
-        FixnumBailout machine = new FixnumBailout();
-        for (int i = 0; i < depth; i++) {
-            Ops.emitAll(machine, Ops.PUSH, i);
+    private static void refused(int[] program, int op, int argument, int want) {
+        String call = "emit(" + op + ", " + argument + ") behind " + program.length / 2;
+        CHECKS.due(call, Machines.filled(program).emit(op, argument), want);
+        CHECKS.due("the change by " + call,
+            Alike.changeBy(() -> Machines.filled(program), machine -> machine.emit(op, argument)), Alike.NO_DIFFERENCE);
+    }
+
+    /** The least program behind which the operation is good. */
+    private static int[] programFor(int op) {
+        if (op >= Ops.ADD && op <= Ops.LESS) {
+            return Programs.pushes(2);
         }
-        return machine;
-    }
-
-    /** 40 tokens, closed and with an empty stack. */
-    private static FixnumBailout full() {
-        FixnumBailout machine = new FixnumBailout();
-        for (int i = 0; i < 20; i++) {
-            Ops.emitAll(machine, Ops.PUSH, i, Ops.STORE, 0);
+        if (op == Ops.STORE || op == Ops.IF) {
+            return Programs.pushes(1);
         }
-        return machine;
-    }
-
-    private static void emit(FixnumBailout machine, int op, int argument, int want) {
-        CHECKS.due("emit(" + op + ", " + argument + ") at " + machine.tokens(), machine.emit(op, argument), want);
+        return op == Ops.END ? Programs.repeats(1) : EMPTY;
     }
 
     private static void newObject() {
+        CHECKS.sentence("Promise 1: No tokens; all variables 0.");
         FixnumBailout machine = new FixnumBailout();
-        CHECKS.due("tokens() of a new object", machine.tokens(), 0);
+        CHECKS.due("tokens()", machine.tokens(), 0);
         for (int v = 0; v < 8; v++) {
-            CHECKS.due("sign of a new object's " + v, machine.sign(v), 0);
-            CHECKS.due("digits of a new object's " + v, machine.digits(v), 1);
-            CHECKS.due("asInt of a new object's " + v, machine.asInt(v), 0);
-            CHECKS.due("isInt of a new object's " + v, machine.isInt(v), true);
-        }
-        CHECKS.due("run() of a new object", machine.run(), FixnumBailout.DONE);
-        emit(machine, Ops.PUSH, 5, 0);
-        emit(machine, Ops.STORE, 7, 1);
-        CHECKS.due("tokens() after two", machine.tokens(), 2);
-        CHECKS.due("tokens() of another object", new FixnumBailout().tokens(), 0);
-    }
-
-    private static void badOps() {
-        for (int op : new int[] {-1, 12, 13, MIN, MAX}) {
-            emit(new FixnumBailout(), op, 0, FixnumBailout.BAD_OP);
-            emit(full(), op, 0, FixnumBailout.BAD_OP);
-        }
-    }
-
-    private static void badArguments() {
-        for (int bad : new int[] {-1, 8, 9, MIN, MAX}) {
-            emit(new FixnumBailout(), Ops.LOAD, bad, FixnumBailout.BAD_ARGUMENT);
-            emit(withDepth(1), Ops.STORE, bad, FixnumBailout.BAD_ARGUMENT);
-        }
-        for (int good = 0; good <= 7; good++) {
-            emit(new FixnumBailout(), Ops.LOAD, good, 0);
-            emit(withDepth(1), Ops.STORE, good, 1);
-        }
-        for (int bad : new int[] {-1, 0, 7, 8, MIN, MAX}) {
-            emit(new FixnumBailout(), Ops.REPEAT, bad, FixnumBailout.BAD_ARGUMENT);
-        }
-        for (int good = 1; good <= 6; good++) {
-            emit(new FixnumBailout(), Ops.REPEAT, good, 0);
-        }
-    }
-
-    private static void ignoredArguments() {
-        for (int any : new int[] {-1, 0, 8, MIN, MAX}) {
-            emit(new FixnumBailout(), Ops.PUSH, any, 0);
-            for (int op = Ops.ADD; op <= Ops.LESS; op++) {
-                emit(withDepth(2), op, any, 2);
+            CHECKS.due("sign(" + v + ")", machine.sign(v), 0);
+            CHECKS.due("digits(" + v + ")", machine.digits(v), 1);
+            for (int i = 0; i <= 40; i++) {
+                CHECKS.due("digit(" + v + ", " + i + ")", machine.digit(v, i), 0);
             }
-            emit(withDepth(1), Ops.IF, any, 1);
-            emit(with(Ops.REPEAT, 1), Ops.END, any, 1);
+            CHECKS.due("isInt(" + v + ")", machine.isInt(v), true);
+            CHECKS.due("asInt(" + v + ")", machine.asInt(v), 0);
+        }
+        CHECKS.due("the change by clear()", Alike.changeBy(FixnumBailout::new, FixnumBailout::clear), Alike.NO_DIFFERENCE);
+        CHECKS.due("what the use of another object changes", Alike.difference(() -> {
+            Machines.filled(FULL).run();
+            return new FixnumBailout();
+        }, FixnumBailout::new), Alike.NO_DIFFERENCE);
+    }
+
+    private static void badOp() {
+        CHECKS.sentence("Promise 2: op not in 0 to 11: BAD_OP");
+        for (int op : new int[] {-1, 12, MIN, MAX}) {
+            refused(EMPTY, op, 1, FixnumBailout.BAD_OP);
+            refused(Programs.join(Programs.repeats(3), Programs.pushes(2)), op, 1, FixnumBailout.BAD_OP);
+            // The program has 40 tokens too, but that is looked at behind the op.
+            refused(FULL, op, 1, FixnumBailout.BAD_OP);
+        }
+        for (int op = 0; op <= 11; op++) {
+            accepted(programFor(op), op, 1);
+        }
+    }
+
+    private static void codeFull() {
+        CHECKS.sentence("Promise 2: the program has 40 tokens: CODE_FULL");
+        for (int op = 0; op <= 11; op++) {
+            int[] before = programFor(op);
+            int[] with39 = Programs.join(Programs.closed(39 - before.length / 2), before);
+            accepted(with39, op, 1);
+            refused(Programs.join(with39, Programs.of(op, 1)), op, 1, FixnumBailout.CODE_FULL);
+            refused(Programs.join(Programs.closed(40 - before.length / 2), before), op, 1, FixnumBailout.CODE_FULL);
+            refused(FULL, op, 1, FixnumBailout.CODE_FULL);
+        }
+    }
+
+    private static void badVariable() {
+        CHECKS.sentence("Promise 2: op LOAD or STORE with argument not in 0 to 7: BAD_ARGUMENT");
+        for (int op : new int[] {Ops.LOAD, Ops.STORE}) {
+            for (int v : OUTSIDE_0_TO_7) {
+                refused(Programs.pushes(1), op, v, FixnumBailout.BAD_ARGUMENT);
+            }
+            for (int v = 0; v <= 7; v++) {
+                accepted(Programs.pushes(1), op, v);
+            }
+        }
+    }
+
+    private static void badRounds() {
+        CHECKS.sentence("Promise 2: or REPEAT with argument not in 1 to 6: BAD_ARGUMENT");
+        for (int n : OUTSIDE_1_TO_6) {
+            refused(EMPTY, Ops.REPEAT, n, FixnumBailout.BAD_ARGUMENT);
+            refused(Programs.repeats(2), Ops.REPEAT, n, FixnumBailout.BAD_ARGUMENT);
+        }
+        for (int n = 1; n <= 6; n++) {
+            accepted(EMPTY, Ops.REPEAT, n);
+        }
+    }
+
+    private static void argumentsNotLookedAt() {
+        CHECKS.sentence("Promise 2: the others don't look at the argument");
+        for (int op = Ops.ADD; op <= Ops.END; op++) {
+            if (op == Ops.REPEAT) {
+                continue;
+            }
+            int[] before = Programs.join(Programs.closed(4), programFor(op));
+            for (int any : new int[] {-1, 0, 6, 7, 8, MIN, MAX}) {
+                accepted(before, op, any);
+                int each = op;
+                CHECKS.due("what argument " + any + " of " + op + " changes", Alike.difference(
+                    () -> Machines.filled(Programs.join(before, Programs.of(each, any))),
+                    () -> Machines.filled(Programs.join(before, Programs.of(each, 1)))), Alike.NO_DIFFERENCE);
+            }
+        }
+    }
+
+    private static void anyIntForPush() {
+        CHECKS.sentence("Promise 2: for PUSH any int is good");
+        for (int any : new int[] {MIN, MIN + 1, -100000000, -1, 0, 1, 7, 8, 99999999, 100000000, MAX - 1, MAX}) {
+            accepted(EMPTY, Ops.PUSH, any);
+            accepted(Programs.pushes(5), Ops.PUSH, any);
         }
     }
 
     private static void stackLow() {
-        emit(withDepth(0), Ops.STORE, 0, FixnumBailout.STACK_LOW);
-        emit(withDepth(0), Ops.IF, 0, FixnumBailout.STACK_LOW);
+        CHECKS.sentence(
+            "Promise 2: the depth is below what the operation pops (2 for ADD to LESS, 1 for STORE and IF): STACK_LOW");
+        int[] emptiedAgain = Programs.of(Ops.PUSH, 1, Ops.STORE, 0);
+        int[] inBlock = Programs.of(Ops.PUSH, 1, Ops.IF, 0);
         for (int op = Ops.ADD; op <= Ops.LESS; op++) {
-            emit(withDepth(0), op, 0, FixnumBailout.STACK_LOW);
-            emit(withDepth(1), op, 0, FixnumBailout.STACK_LOW);
-            emit(withDepth(2), op, 0, 2);
-            emit(withDepth(6), op, 0, 6);
-            FixnumBailout machine = withDepth(2);
-            emit(machine, op, 0, 2);
-            emit(machine, op, 0, FixnumBailout.STACK_LOW);
-            emit(machine, Ops.STORE, 0, 3);
-            emit(machine, Ops.STORE, 0, FixnumBailout.STACK_LOW);
+            for (int[] start : new int[][] {EMPTY, emptiedAgain, inBlock}) {
+                refused(start, op, 1, FixnumBailout.STACK_LOW);
+                refused(Programs.join(start, Programs.pushes(1)), op, 1, FixnumBailout.STACK_LOW);
+                accepted(Programs.join(start, Programs.pushes(2)), op, 1);
+            }
+            refused(Programs.join(Programs.pushes(2), Programs.of(op, 0)), op, 1, FixnumBailout.STACK_LOW);
+            accepted(Programs.pushes(6), op, 1);
         }
-        FixnumBailout afterIf = with(Ops.PUSH, 1, Ops.IF, 0);
-        emit(afterIf, Ops.STORE, 0, FixnumBailout.STACK_LOW);
+        for (int[] start : new int[][] {EMPTY, emptiedAgain, inBlock}) {
+            refused(start, Ops.STORE, 1, FixnumBailout.STACK_LOW);
+            refused(start, Ops.IF, 1, FixnumBailout.STACK_LOW);
+            accepted(Programs.join(start, Programs.pushes(1)), Ops.STORE, 1);
+            accepted(Programs.join(start, Programs.pushes(1)), Ops.IF, 1);
+            accepted(start, Ops.PUSH, 1);
+            accepted(start, Ops.LOAD, 1);
+            accepted(start, Ops.REPEAT, 1);
+        }
+        accepted(Programs.pushes(6), Ops.STORE, 1);
     }
 
     private static void stackHigh() {
-        emit(withDepth(5), Ops.PUSH, 1, 5);
-        emit(withDepth(5), Ops.LOAD, 1, 5);
-        emit(withDepth(6), Ops.PUSH, 1, FixnumBailout.STACK_HIGH);
-        emit(withDepth(6), Ops.LOAD, 1, FixnumBailout.STACK_HIGH);
-        FixnumBailout machine = withDepth(6);
-        emit(machine, Ops.STORE, 1, 6);
-        emit(machine, Ops.LOAD, 1, 7);
-        emit(machine, Ops.LOAD, 1, FixnumBailout.STACK_HIGH);
+        CHECKS.sentence("Promise 2: PUSH or LOAD at depth 6: STACK_HIGH");
+        int[] sixAgain = Programs.join(Programs.pushes(6), Programs.of(Ops.ADD, 0, Ops.LOAD, 3));
+        for (int op : new int[] {Ops.PUSH, Ops.LOAD}) {
+            for (int depth = 0; depth <= 5; depth++) {
+                accepted(Programs.pushes(depth), op, 1);
+            }
+            refused(Programs.pushes(6), op, 1, FixnumBailout.STACK_HIGH);
+            refused(sixAgain, op, 1, FixnumBailout.STACK_HIGH);
+            refused(Programs.join(Programs.repeats(3), Programs.pushes(6)), op, 1, FixnumBailout.STACK_HIGH);
+            accepted(Programs.join(Programs.pushes(6), Programs.of(Ops.STORE, 0)), op, 1);
+        }
     }
 
-    private static void notEmpty() {
+    private static void notEmptyForIf() {
+        CHECKS.sentence("Promise 2: IF at a depth other than 1: NOT_EMPTY");
         for (int depth = 2; depth <= 6; depth++) {
-            emit(withDepth(depth), Ops.IF, 0, FixnumBailout.NOT_EMPTY);
+            refused(Programs.pushes(depth), Ops.IF, 1, FixnumBailout.NOT_EMPTY);
+            refused(Programs.join(Programs.repeats(2), Programs.pushes(depth)), Ops.IF, 1, FixnumBailout.NOT_EMPTY);
         }
-        for (int depth = 1; depth <= 6; depth++) {
-            emit(withDepth(depth), Ops.REPEAT, 1, FixnumBailout.NOT_EMPTY);
-            emit(withDepth(depth), Ops.END, 0, FixnumBailout.NOT_EMPTY);
+        accepted(Programs.pushes(1), Ops.IF, 1);
+        accepted(Programs.join(Programs.pushes(2), Programs.of(Ops.LESS, 0)), Ops.IF, 1);
+    }
+
+    private static void notEmptyForRepeatAndEnd() {
+        CHECKS.sentence("Promise 2: REPEAT or END at a depth other than 0: NOT_EMPTY");
+        for (int[] start : new int[][] {EMPTY, Programs.repeats(1), Programs.of(Ops.PUSH, 1, Ops.IF, 0)}) {
+            for (int depth = 1; depth <= 6; depth++) {
+                int[] before = Programs.join(start, Programs.pushes(depth));
+                refused(before, Ops.REPEAT, 1, FixnumBailout.NOT_EMPTY);
+                refused(before, Ops.END, 1, FixnumBailout.NOT_EMPTY);
+            }
+            accepted(start, Ops.REPEAT, 1);
+            if (start.length != 0) {
+                accepted(start, Ops.END, 1);
+            }
         }
-        emit(with(Ops.REPEAT, 2, Ops.PUSH, 1), Ops.END, 0, FixnumBailout.NOT_EMPTY);
     }
 
     private static void tooDeep() {
-        FixnumBailout machine = with(Ops.REPEAT, 1, Ops.PUSH, 1, Ops.IF, 0, Ops.REPEAT, 2);
-        emit(machine, Ops.REPEAT, 1, FixnumBailout.TOO_DEEP);
-        emit(machine, Ops.PUSH, 1, 4);
-        emit(machine, Ops.IF, 0, FixnumBailout.TOO_DEEP);
-        emit(machine, Ops.STORE, 0, 5);
-        emit(machine, Ops.END, 0, 6);
-        emit(machine, Ops.REPEAT, 6, 7);
-        emit(machine, Ops.REPEAT, 6, FixnumBailout.TOO_DEEP);
-        emit(machine, Ops.END, 0, 8);
-        emit(machine, Ops.END, 0, 9);
-        emit(machine, Ops.END, 0, 10);
-        emit(machine, Ops.END, 0, FixnumBailout.NO_BLOCK);
+        CHECKS.sentence("Promise 2: IF or REPEAT with three blocks open (IF or REPEAT without their END yet): TOO_DEEP");
+        for (int bits = 0; bits < 8; bits++) {
+            for (int open = 0; open <= 2; open++) {
+                accepted(Programs.blocks(open, bits), Ops.REPEAT, 1);
+                accepted(Programs.join(Programs.blocks(open, bits), Programs.pushes(1)), Ops.IF, 1);
+            }
+            int[] three = Programs.blocks(3, bits);
+            refused(three, Ops.REPEAT, 1, FixnumBailout.TOO_DEEP);
+            refused(Programs.join(three, Programs.pushes(1)), Ops.IF, 1, FixnumBailout.TOO_DEEP);
+            int[] oneClosed = Programs.join(three, Programs.ends(1));
+            accepted(oneClosed, Ops.REPEAT, 1);
+            accepted(Programs.join(oneClosed, Programs.pushes(1)), Ops.IF, 1);
+            refused(Programs.join(oneClosed, Programs.repeats(1)), Ops.REPEAT, 1, FixnumBailout.TOO_DEEP);
+            // Blocks with their END don't count, however many they are.
+            accepted(Programs.join(three, Programs.ends(3), three, Programs.ends(3)), Ops.REPEAT, 1);
+        }
     }
 
     private static void noBlock() {
-        emit(new FixnumBailout(), Ops.END, 0, FixnumBailout.NO_BLOCK);
-        FixnumBailout machine = with(Ops.REPEAT, 1, Ops.END, 0);
-        emit(machine, Ops.END, 0, FixnumBailout.NO_BLOCK);
-        machine.clear();
-        Ops.emitAll(machine, Ops.PUSH, 0, Ops.IF, 0, Ops.END, 0);
-        emit(machine, Ops.END, 0, FixnumBailout.NO_BLOCK);
+        CHECKS.sentence("Promise 2: END with no block open: NO_BLOCK");
+        refused(EMPTY, Ops.END, 1, FixnumBailout.NO_BLOCK);
+        refused(Programs.closed(6), Ops.END, 1, FixnumBailout.NO_BLOCK);
+        for (int open = 1; open <= 3; open++) {
+            for (int bits = 0; bits < 8; bits++) {
+                int[] blocks = Programs.blocks(open, bits);
+                accepted(blocks, Ops.END, 1);
+                accepted(Programs.join(blocks, Programs.ends(open - 1)), Ops.END, 1);
+                refused(Programs.join(blocks, Programs.ends(open)), Ops.END, 1, FixnumBailout.NO_BLOCK);
+            }
+        }
     }
 
-    private static void codeFull() {
-        FixnumBailout machine = full();
-        CHECKS.due("tokens() when full", machine.tokens(), 40);
-        for (int op = 0; op <= 11; op++) {
-            emit(machine, op, 1, FixnumBailout.CODE_FULL);
+    private static void codeFullComesSecond() {
+        CHECKS.sentence("Promise 2: Tests in this order: CODE_FULL ahead of all but BAD_OP");
+        int[] highest = Programs.join(Programs.closed(34), Programs.pushes(6));
+        int[] deepest = Programs.join(Programs.closed(37), Programs.repeats(3));
+        int[] deepAndOne = Programs.join(Programs.closed(36), Programs.repeats(3), Programs.pushes(1));
+        int[] deepAndTwo = Programs.join(Programs.closed(35), Programs.repeats(3), Programs.pushes(2));
+        int[][] fullOnes = {FULL, highest, deepest, deepAndOne, deepAndTwo};
+        for (int[] program : fullOnes) {
+            CHECKS.due("tokens()", Machines.with(program).tokens(), 40);
+            for (int op = 0; op <= 11; op++) {
+                for (int argument : new int[] {1, 0, 7, 8, -1}) {
+                    refused(program, op, argument, FixnumBailout.CODE_FULL);
+                }
+            }
         }
-        CHECKS.due("tokens() when still full", machine.tokens(), 40);
-        CHECKS.due("run() when full", machine.run(), FixnumBailout.DONE);
-        CHECKS.due("asInt(0) after it", machine.asInt(0), 19);
-
-        FixnumBailout open = with(Ops.REPEAT, 1);
-        for (int i = 1; i < 39; i += 2) {
-            Ops.emitAll(open, Ops.PUSH, i, Ops.STORE, 0);
-        }
-        emit(open, Ops.PUSH, 1, 39);
-        emit(open, Ops.STORE, 0, FixnumBailout.CODE_FULL);
-        CHECKS.due("run() of a full program that is open", open.run(), FixnumBailout.UNFINISHED);
     }
 
-    private static void orderOfTests() {
-        FixnumBailout machine = full();
-        emit(machine, Ops.LOAD, 8, FixnumBailout.CODE_FULL);
-        emit(machine, Ops.REPEAT, 0, FixnumBailout.CODE_FULL);
-        emit(new FixnumBailout(), Ops.STORE, 8, FixnumBailout.BAD_ARGUMENT);
-        emit(withDepth(6), Ops.LOAD, 8, FixnumBailout.BAD_ARGUMENT);
-        emit(withDepth(1), Ops.REPEAT, 7, FixnumBailout.BAD_ARGUMENT);
-        FixnumBailout deep = with(Ops.REPEAT, 1, Ops.REPEAT, 1, Ops.REPEAT, 1);
-        emit(deep, Ops.REPEAT, 7, FixnumBailout.BAD_ARGUMENT);
-        emit(deep, Ops.IF, 0, FixnumBailout.STACK_LOW);
-        Ops.emitAll(deep, Ops.PUSH, 1);
-        emit(deep, Ops.REPEAT, 1, FixnumBailout.NOT_EMPTY);
-        Ops.emitAll(deep, Ops.PUSH, 1);
-        emit(deep, Ops.IF, 0, FixnumBailout.NOT_EMPTY);
-        emit(withDepth(1), Ops.END, 0, FixnumBailout.NOT_EMPTY);
+    private static void badArgumentComesThird() {
+        CHECKS.sentence("Promise 2: Tests in this order: BAD_ARGUMENT ahead of what the depth and the blocks refuse");
+        int[] deep = Programs.repeats(3);
+        for (int v : OUTSIDE_0_TO_7) {
+            refused(EMPTY, Ops.STORE, v, FixnumBailout.BAD_ARGUMENT);
+            refused(Programs.pushes(6), Ops.LOAD, v, FixnumBailout.BAD_ARGUMENT);
+        }
+        for (int n : OUTSIDE_1_TO_6) {
+            refused(Programs.pushes(1), Ops.REPEAT, n, FixnumBailout.BAD_ARGUMENT);
+            refused(deep, Ops.REPEAT, n, FixnumBailout.BAD_ARGUMENT);
+            refused(Programs.join(deep, Programs.pushes(1)), Ops.REPEAT, n, FixnumBailout.BAD_ARGUMENT);
+        }
+    }
+
+    private static void depthComesBeforeBlocks() {
+        CHECKS.sentence("Promise 2: Tests in this order: STACK_LOW, NOT_EMPTY, then TOO_DEEP and NO_BLOCK");
+        int[] deep = Programs.repeats(3);
+        refused(EMPTY, Ops.IF, 1, FixnumBailout.STACK_LOW);
+        refused(deep, Ops.IF, 1, FixnumBailout.STACK_LOW);
+        refused(Programs.join(deep, Programs.pushes(1)), Ops.IF, 1, FixnumBailout.TOO_DEEP);
+        for (int depth = 1; depth <= 6; depth++) {
+            int[] both = Programs.join(deep, Programs.pushes(depth));
+            refused(both, Ops.REPEAT, 1, FixnumBailout.NOT_EMPTY);
+            if (depth != 1) {
+                refused(both, Ops.IF, 1, FixnumBailout.NOT_EMPTY);
+            }
+            refused(Programs.pushes(depth), Ops.END, 1, FixnumBailout.NOT_EMPTY);
+        }
     }
 
     private static void refusedCallsChangeNothing() {
-        FixnumBailout machine = new FixnumBailout();
-        emit(machine, Ops.END, 0, FixnumBailout.NO_BLOCK);
-        emit(machine, Ops.STORE, 0, FixnumBailout.STACK_LOW);
-        emit(machine, Ops.REPEAT, 7, FixnumBailout.BAD_ARGUMENT);
-        emit(machine, 12, 7, FixnumBailout.BAD_OP);
-        CHECKS.due("tokens() after refusals", machine.tokens(), 0);
-        CHECKS.due("run() after refusals", machine.run(), FixnumBailout.DONE);
-        emit(machine, Ops.PUSH, 7, 0);
-        emit(machine, Ops.ADD, 0, FixnumBailout.STACK_LOW);
-        emit(machine, Ops.REPEAT, 1, FixnumBailout.NOT_EMPTY);
-        emit(machine, Ops.END, 1, FixnumBailout.NOT_EMPTY);
-        emit(machine, Ops.STORE, 3, 1);
-        CHECKS.due("run() after more refusals", machine.run(), FixnumBailout.DONE);
-        CHECKS.due("asInt(3)", machine.asInt(3), 7);
+        CHECKS.sentence("Promise 2: A refused call changes nothing.");
+        int[] program = Programs.join(Programs.closed(8), Programs.blocks(3, 5), Programs.pushes(6));
+        CHECKS.due("the change by many refused calls", Alike.changeBy(() -> Machines.filled(program), machine -> {
+            for (int round = 0; round < 20; round++) {
+                CHECKS.due("emit(12, 1)", machine.emit(12, 1), FixnumBailout.BAD_OP);
+                CHECKS.due("emit(LOAD, 8)", machine.emit(Ops.LOAD, 8), FixnumBailout.BAD_ARGUMENT);
+                CHECKS.due("emit(PUSH, 1)", machine.emit(Ops.PUSH, 1), FixnumBailout.STACK_HIGH);
+                CHECKS.due("emit(IF, 1)", machine.emit(Ops.IF, 1), FixnumBailout.NOT_EMPTY);
+                CHECKS.due("emit(END, 1)", machine.emit(Ops.END, 1), FixnumBailout.NOT_EMPTY);
+            }
+        }), Alike.NO_DIFFERENCE);
     }
 
-    private static void clearDropsTokensAlone() {
-        FixnumBailout machine = with(Ops.PUSH, 4, Ops.STORE, 2);
-        machine.run();
-        machine.set(5, -6);
-        machine.clear();
-        CHECKS.due("tokens() after clear", machine.tokens(), 0);
-        CHECKS.due("asInt(2) after clear", machine.asInt(2), 4);
-        CHECKS.due("asInt(5) after clear", machine.asInt(5), -6);
-        machine.set(2, 1);
-        CHECKS.due("run() after clear", machine.run(), FixnumBailout.DONE);
-        CHECKS.due("asInt(2) after it", machine.asInt(2), 1);
+    private static void indexOfTheToken() {
+        CHECKS.sentence("Promise 2: Else answers the token's index.");
+        FixnumBailout machine = new FixnumBailout();
+        for (int round = 0; round < 2; round++) {
+            for (int index = 0; index < 40; index++) {
+                CHECKS.due("emit of a refused token", machine.emit(Ops.ADD, 0), FixnumBailout.STACK_LOW);
+                CHECKS.due("emit of token " + index, machine.emit(index % 2 == 0 ? Ops.PUSH : Ops.STORE, 3), index);
+            }
+            CHECKS.due("emit of one more", machine.emit(Ops.PUSH, 3), FixnumBailout.CODE_FULL);
+            machine.clear();
+        }
+    }
 
-        FixnumBailout unfinished = with(Ops.REPEAT, 2, Ops.PUSH, 1, Ops.PUSH, 1);
-        unfinished.clear();
-        emit(unfinished, Ops.STORE, 0, FixnumBailout.STACK_LOW);
-        emit(unfinished, Ops.END, 0, FixnumBailout.NO_BLOCK);
-        CHECKS.due("run() after clear of an open program", unfinished.run(), FixnumBailout.DONE);
-        emit(unfinished, Ops.REPEAT, 1, 0);
-        emit(unfinished, Ops.REPEAT, 1, 1);
-        emit(unfinished, Ops.REPEAT, 1, 2);
+    private static void clearDropsAllTokens() {
+        CHECKS.sentence("Promise 3: Drops all tokens.");
+        int[][] programs = {
+            EMPTY, Programs.pushes(1), Programs.pushes(6), Programs.repeats(1), Programs.repeats(3), FULL,
+            Programs.blocks(3, 7), Programs.join(Programs.closed(31), Programs.repeats(3), Programs.pushes(6))};
+        for (int[] program : programs) {
+            FixnumBailout machine = Machines.filled(program);
+            CHECKS.due("tokens()", machine.tokens(), program.length / 2);
+            machine.clear();
+            CHECKS.due("tokens() after clear()", machine.tokens(), 0);
+            CHECKS.due("what clear() of " + program.length / 2 + " tokens leaves", Alike.difference(() -> {
+                FixnumBailout cleared = Machines.filled(program);
+                cleared.clear();
+                return cleared;
+            }, Machines::filled), Alike.NO_DIFFERENCE);
+        }
+    }
+
+    private static void clearLetsVariablesStay() {
+        CHECKS.sentence("Promise 3: Variables stay.");
+        FixnumBailout machine = new FixnumBailout();
+        Ops.put(machine, 0, Numbers.LARGEST);
+        Ops.put(machine, 7, Numbers.LEAST);
+        machine.set(3, -6);
+        Ops.runAlone(machine, Ops.PUSH, 4, Ops.STORE, 2, Ops.PUSH, 1, Ops.PUSH, 0, Ops.DIV, 0, Ops.STORE, 3);
+        for (int round = 0; round < 2; round++) {
+            machine.clear();
+            CHECKS.due("variable 0 after clear()", Ops.read(machine, 0), Numbers.LARGEST);
+            CHECKS.due("variable 7 after clear()", Ops.read(machine, 7), Numbers.LEAST);
+            CHECKS.due("asInt(2) after clear()", machine.asInt(2), 4);
+            CHECKS.due("asInt(3) after clear()", machine.asInt(3), -6);
+            CHECKS.due("asInt(1) after clear()", machine.asInt(1), 0);
+        }
+    }
+
+    private static void howManyTokens() {
+        CHECKS.sentence("Promise 6: How many tokens the program has.");
+        FixnumBailout machine = new FixnumBailout();
+        for (int count = 0; count < 40; count++) {
+            CHECKS.due("tokens()", machine.tokens(), count);
+            machine.emit(Ops.END, 0);
+            machine.set(0, count);
+            machine.run();
+            CHECKS.due("tokens() after other calls", machine.tokens(), count);
+            machine.emit(count % 2 == 0 ? Ops.PUSH : Ops.STORE, 1);
+        }
+        CHECKS.due("tokens() when full", machine.tokens(), 40);
+        machine.emit(Ops.PUSH, 1);
+        CHECKS.due("tokens() after one too many", machine.tokens(), 40);
+        machine.run();
+        CHECKS.due("tokens() after run()", machine.tokens(), 40);
+        machine.clear();
+        CHECKS.due("tokens() after clear()", machine.tokens(), 0);
+        Ops.runAlone(machine, Ops.PUSH, 1, Ops.PUSH, 0, Ops.DIV, 0, Ops.STORE, 0);
+        CHECKS.due("tokens() after a run that stopped", machine.tokens(), 4);
     }
 }

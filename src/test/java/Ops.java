@@ -65,6 +65,10 @@ final class Ops {
         for (int i = machine.digits(variable) - 1; i >= 0; i--) {
             value = value.multiply(BigInteger.TEN).add(BigInteger.valueOf(machine.digit(variable, i)));
         }
-        return value.multiply(BigInteger.valueOf(machine.sign(variable)));
+        int sign = machine.sign(variable);
+        if ((sign == 0) != (value.signum() == 0)) {
+            throw new IllegalStateException("variable " + variable + " has the sign " + sign + " and the digits " + value);
+        }
+        return value.multiply(BigInteger.valueOf(sign));
     }
 }

@@ -1,273 +1,245 @@
 import java.math.BigInteger;
 
-/** Promise 5 and the operations: run. */
+/** Promise 5, sentence by sentence: run. */
 public final class RunTest {
     private static final Checks CHECKS = new Checks();
-    private static final BigInteger LARGEST = Numbers.TOO_BIG.subtract(BigInteger.ONE);
+    private static final int[] DIVIDE_BY_ZERO = Programs.of(Ops.PUSH, 1, Ops.PUSH, 0, Ops.DIV, 0, Ops.STORE, 7);
+    private static final int[] MOD_BY_ZERO = Programs.of(Ops.PUSH, 1, Ops.PUSH, 0, Ops.MOD, 0, Ops.STORE, 7);
+    private static final int[] GROW_TOO_BIG = Programs.of(Ops.LOAD, 2, Ops.PUSH, 1, Ops.ADD, 0, Ops.STORE, 7);
 
     public static void main(String[] args) {
-        unfinished();
-        pushLoadStore();
-        orderOnTheStack();
-        arithmetic();
-        limitOfFortyDigits();
-        zeroDivide();
-        stoppedRunKeepsWhatWasStored();
-        ifBlocks();
-        repeatBlocks();
-        longestRun();
-        runAgain();
+        fromItsFirstToken();
+        onTheVariablesAsTheyAre();
+        depthNotZero();
+        blockOpen();
+        unfinishedBothWays();
+        unfinishedThenFinished();
+        doneAfterTheLastToken();
+        stopped();
+        stoppedInARound();
+        grownTooBigInARound();
+        whatWasStoredStays();
+        afterAStop();
+        emptyProgram();
         CHECKS.finish();
     }
 
-    private static void unfinished() {
-        int[][] programs = {
-            {Ops.PUSH, 1},
-            {Ops.PUSH, 9, Ops.STORE, 0, Ops.LOAD, 0},
-            {Ops.PUSH, 9, Ops.STORE, 0, Ops.REPEAT, 1},
-            {Ops.PUSH, 9, Ops.STORE, 0, Ops.PUSH, 0, Ops.IF, 0},
-            {Ops.REPEAT, 2, Ops.REPEAT, 2, Ops.PUSH, 9, Ops.STORE, 0, Ops.END, 0},
-            {Ops.PUSH, 9, Ops.STORE, 0, Ops.PUSH, 1, Ops.PUSH, 0, Ops.DIV, 0}};
-        for (int[] program : programs) {
-            FixnumBailout machine = new FixnumBailout();
-            machine.set(0, 3);
-            CHECKS.due("run() of an unfinished program", Ops.runAlone(machine, program), FixnumBailout.UNFINISHED);
-            CHECKS.due("asInt(0) after it", machine.asInt(0), 3);
-            CHECKS.due("tokens() after it", machine.tokens(), program.length / 2);
+    private static void fromItsFirstToken() {
+        CHECKS.sentence("Promise 5: Carries the program out from its first token");
+        FixnumBailout machine = Machines.with(Programs.count(0));
+        for (int run = 1; run <= 10; run++) {
+            CHECKS.due("run() number " + run, machine.run(), FixnumBailout.DONE);
+            CHECKS.due("asInt(0) after run " + run, machine.asInt(0), run);
         }
-        FixnumBailout machine = new FixnumBailout();
-        Ops.emitAll(machine, Ops.REPEAT, 2, Ops.PUSH, 5);
+        Ops.emitAll(machine, Programs.count(1));
+        CHECKS.due("run() of more tokens", machine.run(), FixnumBailout.DONE);
+        CHECKS.due("asInt(0), by the first token on", machine.asInt(0), 11);
+        CHECKS.due("asInt(1), by what was added", machine.asInt(1), 1);
+        machine.clear();
+        Ops.emitAll(machine, Programs.count(2));
+        CHECKS.due("run() of another program", machine.run(), FixnumBailout.DONE);
+        CHECKS.due("asInt(0), by the dropped program", machine.asInt(0), 11);
+        CHECKS.due("asInt(2), by the new program", machine.asInt(2), 1);
+    }
+
+    private static void onTheVariablesAsTheyAre() {
+        CHECKS.sentence("Promise 5: on the variables as they are");
+        FixnumBailout machine = Machines.with(Ops.LOAD, 0, Ops.LOAD, 7, Ops.SUB, 0, Ops.STORE, 7);
+        long seven = 0;
+        for (int zero : new int[] {5, -5, Integer.MAX_VALUE, 0, 12}) {
+            machine.set(0, zero);
+            seven = zero - seven;
+            CHECKS.due("run()", machine.run(), FixnumBailout.DONE);
+            CHECKS.due("variable 7", Ops.read(machine, 7), BigInteger.valueOf(seven));
+            CHECKS.due("asInt(0)", machine.asInt(0), zero);
+        }
+    }
+
+    private static void unfinished(int[] program) {
+        String of = "run() of " + program.length / 2 + " tokens";
+        CHECKS.due(of, Machines.filled(program).run(), FixnumBailout.UNFINISHED);
+        CHECKS.due("the change by " + of,
+            Alike.changeBy(() -> Machines.filled(program), FixnumBailout::run), Alike.NO_DIFFERENCE);
+    }
+
+    private static void depthNotZero() {
+        CHECKS.sentence("Promise 5: The depth is not 0: UNFINISHED, nothing changes.");
+        int[] storing = Programs.closed(10);
+        for (int depth = 1; depth <= 6; depth++) {
+            unfinished(Programs.pushes(depth));
+            unfinished(Programs.join(storing, Programs.pushes(depth)));
+            unfinished(Programs.join(DIVIDE_BY_ZERO, Programs.pushes(depth)));
+            unfinished(Programs.join(GROW_TOO_BIG, Programs.pushes(depth)));
+        }
+        unfinished(Programs.join(Programs.closed(39), Programs.pushes(1)));
+        CHECKS.due("run() at depth 0", Machines.filled(storing).run(), FixnumBailout.DONE);
+        int[] emptied = Programs.join(Programs.pushes(2), Programs.of(Ops.ADD, 0, Ops.STORE, 0));
+        CHECKS.due("run() at depth 0 again", Machines.filled(emptied).run(), FixnumBailout.DONE);
+    }
+
+    private static void blockOpen() {
+        CHECKS.sentence("Promise 5: or a block is open: UNFINISHED, nothing changes.");
+        int[] storing = Programs.closed(10);
+        for (int bits = 0; bits < 8; bits++) {
+            for (int open = 1; open <= 3; open++) {
+                int[] blocks = Programs.blocks(open, bits);
+                unfinished(blocks);
+                unfinished(Programs.join(storing, blocks));
+                unfinished(Programs.join(blocks, storing));
+                unfinished(Programs.join(blocks, Programs.ends(open - 1)));
+                unfinished(Programs.join(blocks, storing, Programs.ends(open - 1)));
+                int[] closed = Programs.join(blocks, storing, Programs.ends(open));
+                CHECKS.due("run() with no block open", Machines.filled(closed).run(), FixnumBailout.DONE);
+            }
+        }
+        unfinished(Programs.join(Programs.closed(39), Programs.repeats(1)));
+    }
+
+    private static void unfinishedBothWays() {
+        CHECKS.sentence("Promise 5: The depth is not 0 and a block is open: UNFINISHED, nothing changes.");
+        for (int open = 1; open <= 3; open++) {
+            for (int depth = 1; depth <= 6; depth++) {
+                unfinished(Programs.join(Programs.closed(4), Programs.blocks(open, 2), Programs.pushes(depth)));
+            }
+        }
+    }
+
+    private static void unfinishedThenFinished() {
+        CHECKS.sentence("Promise 5: a program that was UNFINISHED is carried out once it is finished");
+        FixnumBailout machine = Machines.with(Ops.REPEAT, 2, Ops.LOAD, 0, Ops.PUSH, 5);
+        CHECKS.due("run() with depth 2", machine.run(), FixnumBailout.UNFINISHED);
+        Ops.emitAll(machine, Ops.ADD, 0);
         CHECKS.due("run() with depth 1", machine.run(), FixnumBailout.UNFINISHED);
         Ops.emitAll(machine, Ops.STORE, 0);
         CHECKS.due("run() with an open block", machine.run(), FixnumBailout.UNFINISHED);
         Ops.emitAll(machine, Ops.END, 0);
-        CHECKS.due("run() once it is finished", machine.run(), FixnumBailout.DONE);
-        CHECKS.due("asInt(0) after it", machine.asInt(0), 5);
+        CHECKS.due("run() when finished", machine.run(), FixnumBailout.DONE);
+        CHECKS.due("asInt(0) after it", machine.asInt(0), 10);
     }
 
-    private static void pushLoadStore() {
-        for (int value : new int[] {0, 1, -1, 99999999, 100000000, Integer.MAX_VALUE, Integer.MIN_VALUE}) {
+    private static void doneAfterTheLastToken() {
+        CHECKS.sentence("Promise 5: Else DONE after the last token");
+        for (int tokens = 2; tokens <= 40; tokens++) {
+            FixnumBailout machine = Machines.with(Programs.closed(tokens));
+            CHECKS.due("run() of " + tokens + " tokens", machine.run(), FixnumBailout.DONE);
+            int last = tokens - 2;
+            int want = tokens == 3 ? 0 : 100 + last;
+            CHECKS.due("what the last of " + tokens + " tokens stored", machine.asInt(last / 2 % 8), want);
+        }
+        int[] storingTheSame = Programs.of(Ops.REPEAT, 2, Ops.LOAD, 2, Ops.STORE, 2, Ops.END, 0);
+        CHECKS.due("what a run changes but for the variables",
+            Alike.changeBy(() -> Machines.filled(storingTheSame), FixnumBailout::run), Alike.NO_DIFFERENCE);
+    }
+
+    private static void stopped() {
+        CHECKS.sentence("Promise 5: or ZERO_DIVIDE or TOO_BIG if it stopped");
+        int[][] programs = {DIVIDE_BY_ZERO, MOD_BY_ZERO, GROW_TOO_BIG};
+        int[] outcomes = {FixnumBailout.ZERO_DIVIDE, FixnumBailout.ZERO_DIVIDE, FixnumBailout.TOO_BIG};
+        for (int i = 0; i < programs.length; i++) {
+            int[] stopping = programs[i];
+            CHECKS.due("run() that stops at its start", Machines.filled(stopping).run(), outcomes[i]);
+            CHECKS.due("run() that stops, with more behind",
+                Machines.filled(Programs.join(stopping, Programs.closed(36))).run(), outcomes[i]);
+            CHECKS.due("run() that stops at its end",
+                Machines.filled(Programs.join(Programs.of(Ops.LOAD, 1, Ops.STORE, 0), stopping)).run(), outcomes[i]);
+            CHECKS.due("run() that stops in an IF", Machines.filled(
+                Programs.join(Programs.of(Ops.LOAD, 1, Ops.IF, 0), stopping, Programs.ends(1))).run(), outcomes[i]);
+            CHECKS.due("run() that does not come there", Machines.filled(
+                Programs.join(Programs.of(Ops.LOAD, 3, Ops.IF, 0), stopping, Programs.ends(1))).run(), FixnumBailout.DONE);
+            for (int[] second : programs) {
+                int[] both = Programs.join(stopping, second);
+                CHECKS.due("run() that would stop twice", Machines.filled(both).run(), outcomes[i]);
+            }
+        }
+    }
+
+    /** Tokens that take 1 from variable 0, then divide 60 by it. */
+    private static int[] divideByOneLess() {
+        return Programs.of(Ops.LOAD, 0, Ops.PUSH, 1, Ops.SUB, 0, Ops.STORE, 0,
+            Ops.PUSH, 60, Ops.LOAD, 0, Ops.DIV, 0, Ops.STORE, 2);
+    }
+
+    private static void stoppedInARound() {
+        CHECKS.sentence("Promise 5: a run stops in the round of a REPEAT in which it must, not sooner and not later");
+        for (int last = 1; last <= 6; last++) {
             FixnumBailout machine = new FixnumBailout();
-            CHECKS.due("run()", Ops.runAlone(machine, Ops.PUSH, value, Ops.STORE, 7), FixnumBailout.DONE);
-            CHECKS.due("PUSH of " + value, machine.asInt(7), value);
-            CHECKS.due("isInt after PUSH of " + value, machine.isInt(7), true);
+            machine.set(0, last);
+            Ops.emitAll(machine, Programs.join(Programs.of(Ops.REPEAT, 6), Programs.count(1), divideByOneLess(),
+                Programs.count(3), Programs.ends(1), Programs.count(4)));
+            CHECKS.due("run() that divides by 0 in round " + last, machine.run(), FixnumBailout.ZERO_DIVIDE);
+            CHECKS.due("rounds begun", machine.asInt(1), last);
+            CHECKS.due("rounds ended", machine.asInt(3), last - 1);
+            CHECKS.due("behind the rounds", machine.asInt(4), 0);
         }
         FixnumBailout machine = new FixnumBailout();
-        Ops.put(machine, 2, LARGEST.negate());
-        CHECKS.due("run()", Ops.runAlone(machine, Ops.LOAD, 2, Ops.STORE, 6), FixnumBailout.DONE);
-        CHECKS.due("LOAD and STORE", Ops.read(machine, 6), LARGEST.negate());
-        CHECKS.due("what LOAD leaves", Ops.read(machine, 2), LARGEST.negate());
+        machine.set(0, 7);
+        Ops.emitAll(machine, Programs.join(Programs.of(Ops.REPEAT, 6), divideByOneLess(), Programs.ends(1)));
+        CHECKS.due("run() whose divisor ends at 1", machine.run(), FixnumBailout.DONE);
+        CHECKS.due("its last quotient", machine.asInt(2), 60);
     }
 
-    private static void orderOnTheStack() {
-        FixnumBailout machine = new FixnumBailout();
-        Ops.runAlone(machine, Ops.PUSH, 1, Ops.PUSH, 2, Ops.PUSH, 3, Ops.PUSH, 4, Ops.PUSH, 5, Ops.PUSH, 6,
-            Ops.STORE, 5, Ops.STORE, 4, Ops.STORE, 3, Ops.STORE, 2, Ops.STORE, 1, Ops.STORE, 0);
-        for (int v = 0; v < 6; v++) {
-            CHECKS.due("variable " + v + " from a stack of six", machine.asInt(v), v + 1);
-        }
-        Ops.runAlone(machine, Ops.PUSH, 100, Ops.PUSH, 7, Ops.PUSH, 10, Ops.PUSH, 3, Ops.SUB, 0, Ops.SUB, 0,
-            Ops.SUB, 0, Ops.STORE, 0);
-        CHECKS.due("100 - (7 - (10 - 3))", machine.asInt(0), 100);
-        Ops.runAlone(machine, Ops.PUSH, 17, Ops.PUSH, 5, Ops.DIV, 0, Ops.PUSH, 17, Ops.PUSH, 5, Ops.MOD, 0,
-            Ops.LESS, 0, Ops.STORE, 0);
-        CHECKS.due("17 / 5 < 17 % 5", machine.asInt(0), 0);
+    private static void grownTooBigInARound() {
+        CHECKS.sentence("Promise 5: a run stops with TOO_BIG by the first result that is, and no other");
+        FixnumBailout squares = Machines.with(Ops.REPEAT, 6, Ops.LOAD, 0, Ops.LOAD, 0, Ops.MUL, 0, Ops.STORE, 0, Ops.END, 0);
+        squares.set(0, -10);
+        CHECKS.due("run() that grows too big in round 6", squares.run(), FixnumBailout.TOO_BIG);
+        CHECKS.due("the last power that was stored", Ops.read(squares, 0), Numbers.power(32));
+        squares.set(0, 4);
+        CHECKS.due("run() that stays small enough", squares.run(), FixnumBailout.DONE);
+        CHECKS.due("4 to the 64th", Ops.read(squares, 0), Numbers.powerOfTwo(128));
+        CHECKS.due("run() of one more", squares.run(), FixnumBailout.TOO_BIG);
+        CHECKS.due("4 to the 64th again", Ops.read(squares, 0), Numbers.powerOfTwo(128));
     }
 
-    private static BigInteger exact(int op, BigInteger x, BigInteger y) {
-        switch (op) {
-            case Ops.ADD:
-                return x.add(y);
-            case Ops.SUB:
-                return x.subtract(y);
-            case Ops.MUL:
-                return x.multiply(y);
-            case Ops.DIV:
-                return x.divide(y);
-            case Ops.MOD:
-                return x.remainder(y);
-            default:
-                return x.compareTo(y) < 0 ? BigInteger.ONE : BigInteger.ZERO;
+    private static void whatWasStoredStays() {
+        CHECKS.sentence("Promise 5: what was stored before stays.");
+        for (int[] stopping : new int[][] {DIVIDE_BY_ZERO, MOD_BY_ZERO, GROW_TOO_BIG}) {
+            FixnumBailout machine = Machines.filled(Programs.join(
+                Programs.of(Ops.PUSH, 5, Ops.STORE, 0, Ops.LOAD, 2, Ops.STORE, 1, Ops.PUSH, 8), stopping,
+                Programs.of(Ops.STORE, 3, Ops.PUSH, 6, Ops.STORE, 4)));
+            machine.run();
+            CHECKS.due("asInt(0), stored before", machine.asInt(0), 5);
+            CHECKS.due("variable 1, stored before", Ops.read(machine, 1), Numbers.LARGEST);
+            CHECKS.due("variable 2, not stored", Ops.read(machine, 2), Numbers.LARGEST);
+            CHECKS.due("asInt(3), for what was still on the stack", machine.asInt(3), 0);
+            CHECKS.due("asInt(4), to be stored later", machine.asInt(4), Integer.MIN_VALUE);
+            CHECKS.due("asInt(6), not stored", machine.asInt(6), 10);
+            CHECKS.due("asInt(7), for the result", machine.asInt(7), 100000000);
         }
     }
 
-    private static void calculation(int op, BigInteger x, BigInteger y) {
-        FixnumBailout machine = new FixnumBailout();
-        Ops.put(machine, 0, x);
-        Ops.put(machine, 1, y);
-        machine.set(2, -77);
-        int answer = Ops.runAlone(machine, Ops.LOAD, 0, Ops.LOAD, 1, op, 0, Ops.STORE, 2);
-        String call = x + " with " + y + " by operation " + op;
-        boolean byZero = y.signum() == 0 && (op == Ops.DIV || op == Ops.MOD);
-        BigInteger result = byZero ? BigInteger.ZERO : exact(op, x, y);
-        int want = FixnumBailout.DONE;
-        if (byZero) {
-            want = FixnumBailout.ZERO_DIVIDE;
-        } else if (result.abs().compareTo(Numbers.TOO_BIG) >= 0) {
-            want = FixnumBailout.TOO_BIG;
+    private static void afterAStop() {
+        CHECKS.sentence("Promise 5: after a stop the program is as it was, and the next run begins with an empty stack");
+        for (int[] stopping : new int[][] {DIVIDE_BY_ZERO, MOD_BY_ZERO, GROW_TOO_BIG}) {
+            int[] program = Programs.join(Programs.pushes(4), stopping,
+                Programs.of(Ops.STORE, 3, Ops.STORE, 3, Ops.STORE, 3, Ops.STORE, 3));
+            CHECKS.due("the change by a run that stopped before any STORE",
+                Alike.changeBy(() -> Machines.filled(program), FixnumBailout::run), Alike.NO_DIFFERENCE);
         }
-        CHECKS.due("run of " + call, answer, want);
-        BigInteger stored = want == FixnumBailout.DONE ? result : BigInteger.valueOf(-77);
-        CHECKS.due("result of " + call, Ops.read(machine, 2), stored);
-        CHECKS.due("x after " + call, Ops.read(machine, 0), x);
-        CHECKS.due("y after " + call, Ops.read(machine, 1), y);
+        FixnumBailout machine = Machines.with(Programs.join(Programs.pushes(4),
+            Programs.of(Ops.PUSH, 60, Ops.LOAD, 0, Ops.DIV, 0, Ops.STORE, 1),
+            Programs.of(Ops.STORE, 2, Ops.STORE, 3, Ops.STORE, 4, Ops.STORE, 5)));
+        for (int round = 0; round < 20; round++) {
+            CHECKS.due("run() that divides by 0", machine.run(), FixnumBailout.ZERO_DIVIDE);
+        }
+        machine.set(0, -7);
+        CHECKS.due("run() that divides by -7", machine.run(), FixnumBailout.DONE);
+        CHECKS.due("its quotient", machine.asInt(1), -8);
+        CHECKS.due("the third number of the stack", machine.asInt(3), 52);
+        CHECKS.due("the first number of the stack", machine.asInt(5), 50);
     }
 
-    private static void arithmetic() {
-        for (BigInteger x : Numbers.EDGES) {
-            for (BigInteger y : Numbers.EDGES) {
-                for (int op = Ops.ADD; op <= Ops.LESS; op++) {
-                    calculation(op, x, y);
-                }
-            }
+    private static void emptyProgram() {
+        CHECKS.sentence("Promise 5: An empty program is DONE.");
+        CHECKS.due("run() of a new object", new FixnumBailout().run(), FixnumBailout.DONE);
+        CHECKS.due("run() without tokens", Machines.filled().run(), FixnumBailout.DONE);
+        CHECKS.due("the change by it", Alike.changeBy(Machines::filled, FixnumBailout::run), Alike.NO_DIFFERENCE);
+        int[][] dropped = {Programs.pushes(1), Programs.repeats(3), DIVIDE_BY_ZERO, Programs.closed(40)};
+        for (int[] program : dropped) {
+            FixnumBailout machine = Machines.filled(program);
+            machine.run();
+            machine.clear();
+            CHECKS.due("run() after clear()", machine.run(), FixnumBailout.DONE);
         }
-        for (int x = -12; x <= 12; x++) {
-            for (int y = -12; y <= 12; y++) {
-                for (int op = Ops.ADD; op <= Ops.LESS; op++) {
-                    calculation(op, BigInteger.valueOf(x), BigInteger.valueOf(y));
-                }
-            }
-        }
-    }
-
-    private static void limitOfFortyDigits() {
-        BigInteger one = BigInteger.ONE;
-        calculation(Ops.ADD, LARGEST, one);
-        calculation(Ops.ADD, LARGEST.subtract(one), one);
-        calculation(Ops.SUB, LARGEST.negate(), one);
-        calculation(Ops.SUB, LARGEST.negate().add(one), one);
-        calculation(Ops.ADD, LARGEST, LARGEST.negate());
-        calculation(Ops.MUL, BigInteger.TEN.pow(20), BigInteger.TEN.pow(20));
-        calculation(Ops.MUL, BigInteger.TEN.pow(20), BigInteger.TEN.pow(20).subtract(one));
-        calculation(Ops.MUL, BigInteger.TEN.pow(20).negate(), BigInteger.TEN.pow(20));
-        calculation(Ops.MUL, LARGEST, one.negate());
-        calculation(Ops.MUL, LARGEST, LARGEST);
-        calculation(Ops.MUL, LARGEST, BigInteger.ZERO);
-        calculation(Ops.DIV, LARGEST, one.negate());
-        calculation(Ops.MOD, LARGEST.negate(), LARGEST.subtract(one));
-        calculation(Ops.LESS, LARGEST.negate(), LARGEST);
-    }
-
-    private static void zeroDivide() {
-        for (int op : new int[] {Ops.DIV, Ops.MOD}) {
-            for (BigInteger x : Numbers.EDGES) {
-                calculation(op, x, BigInteger.ZERO);
-            }
-        }
-    }
-
-    private static void stoppedRunKeepsWhatWasStored() {
-        FixnumBailout machine = new FixnumBailout();
-        int answer = Ops.runAlone(machine, Ops.PUSH, 5, Ops.STORE, 0, Ops.PUSH, 8, Ops.PUSH, 1, Ops.PUSH, 0,
-            Ops.MOD, 0, Ops.STORE, 1, Ops.STORE, 2, Ops.PUSH, 6, Ops.STORE, 3);
-        CHECKS.due("run() that divides by 0", answer, FixnumBailout.ZERO_DIVIDE);
-        CHECKS.due("what was stored before", machine.asInt(0), 5);
-        CHECKS.due("what was to get the result", machine.asInt(1), 0);
-        CHECKS.due("what was still on the stack", machine.asInt(2), 0);
-        CHECKS.due("what was to come", machine.asInt(3), 0);
-        CHECKS.due("tokens() after it", machine.tokens(), 10);
-        CHECKS.due("emit after it", machine.emit(Ops.STORE, 0), FixnumBailout.STACK_LOW);
-        CHECKS.due("run() again", machine.run(), FixnumBailout.ZERO_DIVIDE);
-
-        machine.set(0, 10);
-        answer = Ops.runAlone(machine, Ops.REPEAT, 6, Ops.LOAD, 0, Ops.LOAD, 0, Ops.MUL, 0, Ops.STORE, 0, Ops.END, 0);
-        CHECKS.due("run() that grows too big", answer, FixnumBailout.TOO_BIG);
-        CHECKS.due("the last power that was stored", Ops.read(machine, 0), BigInteger.TEN.pow(32));
-        machine.set(0, 1);
-        CHECKS.due("run() from the start again", machine.run(), FixnumBailout.DONE);
-        CHECKS.due("powers of 1", machine.asInt(0), 1);
-    }
-
-    private static void ifBlocks() {
-        BigInteger[] conditions = {
-            BigInteger.ZERO, BigInteger.ONE, BigInteger.ONE.negate(), BigInteger.TEN.pow(8), BigInteger.TEN.pow(39).negate()};
-        for (BigInteger condition : conditions) {
-            FixnumBailout machine = new FixnumBailout();
-            Ops.put(machine, 0, condition);
-            int answer = Ops.runAlone(machine, Ops.LOAD, 0, Ops.IF, 0, Ops.PUSH, 3, Ops.STORE, 1, Ops.END, 0,
-                Ops.PUSH, 4, Ops.STORE, 2);
-            CHECKS.due("run() with IF " + condition, answer, FixnumBailout.DONE);
-            CHECKS.due("inside IF " + condition, machine.asInt(1), condition.signum() == 0 ? 0 : 3);
-            CHECKS.due("behind IF " + condition, machine.asInt(2), 4);
-        }
-        for (int outer = 0; outer <= 1; outer++) {
-            for (int inner = 0; inner <= 1; inner++) {
-                FixnumBailout machine = new FixnumBailout();
-                Ops.runAlone(machine, Ops.PUSH, outer, Ops.IF, 0, Ops.PUSH, inner, Ops.IF, 0, Ops.PUSH, 1, Ops.STORE, 0,
-                    Ops.END, 0, Ops.PUSH, 1, Ops.STORE, 1, Ops.END, 0, Ops.PUSH, 1, Ops.STORE, 2);
-                CHECKS.due("innermost of IF " + outer + inner, machine.asInt(0), outer * inner);
-                CHECKS.due("between of IF " + outer + inner, machine.asInt(1), outer);
-                CHECKS.due("behind of IF " + outer + inner, machine.asInt(2), 1);
-            }
-        }
-        FixnumBailout machine = new FixnumBailout();
-        CHECKS.due("a skipped division by 0", Ops.runAlone(machine, Ops.PUSH, 0, Ops.IF, 0, Ops.PUSH, 1, Ops.PUSH, 0,
-            Ops.DIV, 0, Ops.STORE, 0, Ops.END, 0), FixnumBailout.DONE);
-        CHECKS.due("an empty IF", Ops.runAlone(machine, Ops.PUSH, 0, Ops.IF, 0, Ops.END, 0), FixnumBailout.DONE);
-        CHECKS.due("an empty IF", Ops.runAlone(machine, Ops.PUSH, 2, Ops.IF, 0, Ops.END, 0), FixnumBailout.DONE);
-    }
-
-    /** Emits tokens that add 1 to a variable. */
-    private static void count(FixnumBailout machine, int variable) {
-        Ops.emitAll(machine, Ops.LOAD, variable, Ops.PUSH, 1, Ops.ADD, 0, Ops.STORE, variable);
-    }
-
-    private static void repeatBlocks() {
-        for (int n = 1; n <= 6; n++) {
-            for (int m = 1; m <= 6; m++) {
-                FixnumBailout machine = new FixnumBailout();
-                Ops.emitAll(machine, Ops.REPEAT, n);
-                count(machine, 0);
-                Ops.emitAll(machine, Ops.REPEAT, m);
-                count(machine, 1);
-                Ops.emitAll(machine, Ops.END, 0, Ops.REPEAT, 2);
-                count(machine, 2);
-                Ops.emitAll(machine, Ops.END, 0, Ops.END, 0);
-                count(machine, 3);
-                CHECKS.due("run()", machine.run(), FixnumBailout.DONE);
-                CHECKS.due("rounds of " + n, machine.asInt(0), n);
-                CHECKS.due("rounds of " + m + " in " + n, machine.asInt(1), n * m);
-                CHECKS.due("rounds of 2 in " + n, machine.asInt(2), n * 2);
-                CHECKS.due("behind the rounds", machine.asInt(3), 1);
-            }
-        }
-        FixnumBailout machine = new FixnumBailout();
-        Ops.emitAll(machine, Ops.REPEAT, 5);
-        count(machine, 0);
-        Ops.emitAll(machine, Ops.LOAD, 0, Ops.PUSH, 2, Ops.MOD, 0, Ops.IF, 0, Ops.REPEAT, 3);
-        count(machine, 1);
-        Ops.emitAll(machine, Ops.END, 0, Ops.END, 0, Ops.END, 0);
-        CHECKS.due("run()", machine.run(), FixnumBailout.DONE);
-        CHECKS.due("rounds", machine.asInt(0), 5);
-        CHECKS.due("3 rounds in every odd round of 5", machine.asInt(1), 9);
-        CHECKS.due("an empty REPEAT", Ops.runAlone(machine, Ops.REPEAT, 6, Ops.END, 0), FixnumBailout.DONE);
-    }
-
-    private static void longestRun() {
-        FixnumBailout machine = new FixnumBailout();
-        Ops.emitAll(machine, Ops.REPEAT, 6, Ops.REPEAT, 6, Ops.REPEAT, 6);
-        for (int i = 0; i < 8; i++) {
-            count(machine, i);
-        }
-        Ops.emitAll(machine, Ops.PUSH, -1, Ops.STORE, 0, Ops.END, 0, Ops.END, 0, Ops.END, 0);
-        CHECKS.due("tokens of the longest run", machine.tokens(), 40);
-        CHECKS.due("run() of the longest", machine.run(), FixnumBailout.DONE);
-        CHECKS.due("its last token", machine.asInt(0), -1);
-        for (int i = 1; i < 8; i++) {
-            CHECKS.due("rounds of " + i, machine.asInt(i), 216);
-        }
-    }
-
-    private static void runAgain() {
-        FixnumBailout machine = new FixnumBailout();
-        count(machine, 0);
-        for (int i = 1; i <= 10; i++) {
-            CHECKS.due("run() number " + i, machine.run(), FixnumBailout.DONE);
-            CHECKS.due("asInt(0) after run " + i, machine.asInt(0), i);
-        }
-        count(machine, 1);
-        CHECKS.due("run() of more tokens", machine.run(), FixnumBailout.DONE);
-        CHECKS.due("asInt(0)", machine.asInt(0), 11);
-        CHECKS.due("asInt(1)", machine.asInt(1), 1);
     }
 }
