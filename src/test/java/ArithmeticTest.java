@@ -5,7 +5,14 @@ public final class ArithmeticTest {
     private static final Checks CHECKS = new Checks();
 
     public static void main(String[] args) {
-        CHECKS.sentence("Terms: The results of ADD, SUB, MUL, DIV and MOD are exact whatever their size");
+        CHECKS.sentence("Terms: The results of ADD, SUB, MUL, DIV and MOD are exact whatever their size",
+            ArithmeticTest::allPairs);
+        CHECKS.sentence("Terms: The results are exact whatever their size: around every power of 10",
+            ArithmeticTest::aroundEveryPower);
+        CHECKS.finish();
+    }
+
+    private static void allPairs() {
         for (BigInteger x : Numbers.EDGES) {
             for (BigInteger y : Numbers.EDGES) {
                 everyOperation(x, y);
@@ -16,8 +23,6 @@ public final class ArithmeticTest {
                 everyOperation(BigInteger.valueOf(x), BigInteger.valueOf(y));
             }
         }
-        aroundEveryPower();
-        CHECKS.finish();
     }
 
     private static void aroundEveryPower() {

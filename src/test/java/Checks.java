@@ -3,13 +3,24 @@ final class Checks {
     private int right = 0;
     private int wrong = 0;
     private String sentence = "";
-    private int atItsStart = 0;
 
-    /** Begins the test of one sentence of the document. */
-    void sentence(String text) {
-        endSentence();
-        sentence = text;
-        atItsStart = right + wrong;
+    /** Carries out the test of one sentence of the document; the other sentences' tests go on though it fails. */
+    void sentence(String text, Runnable test) {
+        int before = right + wrong;
+        sentence = text + " ~ ";
+        try {
+            test.run();
+        } catch (RuntimeException fault) {
+            wrong++;
+            System.out.println(sentence + "ended with " + fault);
+        }
+        int answers = right + wrong - before;
+        System.out.println(answers + " for: " + text);
+        // A test that asked nothing has shown nothing.
+        if (answers == 0) {
+            wrong++;
+        }
+        sentence = "";
     }
 
     void due(String call, Object got, Object want) {
@@ -17,28 +28,14 @@ final class Checks {
             right++;
         } else {
             wrong++;
-            System.out.println(sentence + " ~ " + call + " answered " + got + ", due is " + want);
+            System.out.println(sentence + call + " answered " + got + ", due is " + want);
         }
     }
 
     void finish() {
-        endSentence();
         System.out.println(right + " answers as due, " + wrong + " not");
         if (wrong != 0 || right == 0) {
             System.exit(1);
         }
-    }
-
-    private void endSentence() {
-        if (sentence.isEmpty()) {
-            return;
-        }
-        int answers = right + wrong - atItsStart;
-        System.out.println(answers + " for: " + sentence);
-        // A sentence that asked nothing has shown nothing.
-        if (answers == 0) {
-            wrong++;
-        }
-        sentence = "";
     }
 }

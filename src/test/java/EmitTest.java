@@ -9,27 +9,34 @@ public final class EmitTest {
     private static final int[] FULL = Programs.closed(40);
 
     public static void main(String[] args) {
-        newObject();
-        badOp();
-        codeFull();
-        badVariable();
-        badRounds();
-        argumentsNotLookedAt();
-        anyIntForPush();
-        stackLow();
-        stackHigh();
-        notEmptyForIf();
-        notEmptyForRepeatAndEnd();
-        tooDeep();
-        noBlock();
-        codeFullComesSecond();
-        badArgumentComesThird();
-        depthComesBeforeBlocks();
-        refusedCallsChangeNothing();
-        indexOfTheToken();
-        clearDropsAllTokens();
-        clearLetsVariablesStay();
-        howManyTokens();
+        CHECKS.sentence("Promise 1: No tokens; all variables 0.", EmitTest::newObject);
+        CHECKS.sentence("Promise 2: op not in 0 to 11: BAD_OP", EmitTest::badOp);
+        CHECKS.sentence("Promise 2: the program has 40 tokens: CODE_FULL", EmitTest::codeFull);
+        CHECKS.sentence("Promise 2: op LOAD or STORE with argument not in 0 to 7: BAD_ARGUMENT", EmitTest::badVariable);
+        CHECKS.sentence("Promise 2: or REPEAT with argument not in 1 to 6: BAD_ARGUMENT", EmitTest::badRounds);
+        CHECKS.sentence("Promise 2: the others don't look at the argument", EmitTest::argumentsNotLookedAt);
+        CHECKS.sentence("Promise 2: for PUSH any int is good", EmitTest::anyIntForPush);
+        CHECKS.sentence("Promise 2: the depth is below what the operation pops (2 for ADD to LESS, 1 for STORE and IF): "
+            + "STACK_LOW", EmitTest::stackLow);
+        CHECKS.sentence("Promise 2: PUSH or LOAD at depth 6: STACK_HIGH", EmitTest::stackHigh);
+        CHECKS.sentence("Promise 2: IF at a depth other than 1: NOT_EMPTY", EmitTest::notEmptyForIf);
+        CHECKS.sentence("Promise 2: REPEAT or END at a depth other than 0: NOT_EMPTY",
+            EmitTest::notEmptyForRepeatAndEnd);
+        CHECKS.sentence("Promise 2: IF or REPEAT with three blocks open (IF or REPEAT without their END yet): TOO_DEEP",
+            EmitTest::tooDeep);
+        CHECKS.sentence("Promise 2: END with no block open: NO_BLOCK", EmitTest::noBlock);
+        CHECKS.sentence("Promise 2: Tests in this order: CODE_FULL ahead of all but BAD_OP",
+            EmitTest::codeFullComesSecond);
+        CHECKS.sentence("Promise 2: Tests in this order: BAD_ARGUMENT ahead of what the depth and the blocks refuse",
+            EmitTest::badArgumentComesThird);
+        CHECKS.sentence("Promise 2: Tests in this order: STACK_LOW, NOT_EMPTY, then TOO_DEEP and NO_BLOCK",
+            EmitTest::depthComesBeforeBlocks);
+        CHECKS.sentence("Promise 2: A refused call changes nothing.", EmitTest::refusedCallsChangeNothing);
+        CHECKS.sentence("Promise 2: A refused call changes nothing, nor do many.", EmitTest::manyRefusedCalls);
+        CHECKS.sentence("Promise 2: Else answers the token's index.", EmitTest::indexOfTheToken);
+        CHECKS.sentence("Promise 3: Drops all tokens.", EmitTest::clearDropsAllTokens);
+        CHECKS.sentence("Promise 3: Variables stay.", EmitTest::clearLetsVariablesStay);
+        CHECKS.sentence("Promise 6: How many tokens the program has.", EmitTest::howManyTokens);
         CHECKS.finish();
     }
 
@@ -60,7 +67,6 @@ public final class EmitTest {
     }
 
     private static void newObject() {
-        CHECKS.sentence("Promise 1: No tokens; all variables 0.");
         FixnumBailout machine = new FixnumBailout();
         CHECKS.due("tokens()", machine.tokens(), 0);
         for (int v = 0; v < 8; v++) {
@@ -80,7 +86,6 @@ public final class EmitTest {
     }
 
     private static void badOp() {
-        CHECKS.sentence("Promise 2: op not in 0 to 11: BAD_OP");
         for (int op : new int[] {-1, 12, MIN, MAX}) {
             refused(EMPTY, op, 1, FixnumBailout.BAD_OP);
             refused(Programs.join(Programs.repeats(3), Programs.pushes(2)), op, 1, FixnumBailout.BAD_OP);
@@ -93,7 +98,6 @@ public final class EmitTest {
     }
 
     private static void codeFull() {
-        CHECKS.sentence("Promise 2: the program has 40 tokens: CODE_FULL");
         for (int op = 0; op <= 11; op++) {
             int[] before = programFor(op);
             int[] with39 = Programs.join(Programs.closed(39 - before.length / 2), before);
@@ -105,7 +109,6 @@ public final class EmitTest {
     }
 
     private static void badVariable() {
-        CHECKS.sentence("Promise 2: op LOAD or STORE with argument not in 0 to 7: BAD_ARGUMENT");
         for (int op : new int[] {Ops.LOAD, Ops.STORE}) {
             for (int v : OUTSIDE_0_TO_7) {
                 refused(Programs.pushes(1), op, v, FixnumBailout.BAD_ARGUMENT);
@@ -117,7 +120,6 @@ public final class EmitTest {
     }
 
     private static void badRounds() {
-        CHECKS.sentence("Promise 2: or REPEAT with argument not in 1 to 6: BAD_ARGUMENT");
         for (int n : OUTSIDE_1_TO_6) {
             refused(EMPTY, Ops.REPEAT, n, FixnumBailout.BAD_ARGUMENT);
             refused(Programs.repeats(2), Ops.REPEAT, n, FixnumBailout.BAD_ARGUMENT);
@@ -128,7 +130,6 @@ public final class EmitTest {
     }
 
     private static void argumentsNotLookedAt() {
-        CHECKS.sentence("Promise 2: the others don't look at the argument");
         for (int op = Ops.ADD; op <= Ops.END; op++) {
             if (op == Ops.REPEAT) {
                 continue;
@@ -145,7 +146,6 @@ public final class EmitTest {
     }
 
     private static void anyIntForPush() {
-        CHECKS.sentence("Promise 2: for PUSH any int is good");
         for (int any : new int[] {MIN, MIN + 1, -100000000, -1, 0, 1, 7, 8, 99999999, 100000000, MAX - 1, MAX}) {
             accepted(EMPTY, Ops.PUSH, any);
             accepted(Programs.pushes(5), Ops.PUSH, any);
@@ -153,8 +153,6 @@ public final class EmitTest {
     }
 
     private static void stackLow() {
-        CHECKS.sentence(
-            "Promise 2: the depth is below what the operation pops (2 for ADD to LESS, 1 for STORE and IF): STACK_LOW");
         int[] emptiedAgain = Programs.of(Ops.PUSH, 1, Ops.STORE, 0);
         int[] inBlock = Programs.of(Ops.PUSH, 1, Ops.IF, 0);
         for (int op = Ops.ADD; op <= Ops.LESS; op++) {
@@ -179,7 +177,6 @@ public final class EmitTest {
     }
 
     private static void stackHigh() {
-        CHECKS.sentence("Promise 2: PUSH or LOAD at depth 6: STACK_HIGH");
         int[] sixAgain = Programs.join(Programs.pushes(6), Programs.of(Ops.ADD, 0, Ops.LOAD, 3));
         for (int op : new int[] {Ops.PUSH, Ops.LOAD}) {
             for (int depth = 0; depth <= 5; depth++) {
@@ -193,7 +190,6 @@ public final class EmitTest {
     }
 
     private static void notEmptyForIf() {
-        CHECKS.sentence("Promise 2: IF at a depth other than 1: NOT_EMPTY");
         for (int depth = 2; depth <= 6; depth++) {
             refused(Programs.pushes(depth), Ops.IF, 1, FixnumBailout.NOT_EMPTY);
             refused(Programs.join(Programs.repeats(2), Programs.pushes(depth)), Ops.IF, 1, FixnumBailout.NOT_EMPTY);
@@ -203,7 +199,6 @@ public final class EmitTest {
     }
 
     private static void notEmptyForRepeatAndEnd() {
-        CHECKS.sentence("Promise 2: REPEAT or END at a depth other than 0: NOT_EMPTY");
         for (int[] start : new int[][] {EMPTY, Programs.repeats(1), Programs.of(Ops.PUSH, 1, Ops.IF, 0)}) {
             for (int depth = 1; depth <= 6; depth++) {
                 int[] before = Programs.join(start, Programs.pushes(depth));
@@ -218,7 +213,6 @@ public final class EmitTest {
     }
 
     private static void tooDeep() {
-        CHECKS.sentence("Promise 2: IF or REPEAT with three blocks open (IF or REPEAT without their END yet): TOO_DEEP");
         for (int bits = 0; bits < 8; bits++) {
             for (int open = 0; open <= 2; open++) {
                 accepted(Programs.blocks(open, bits), Ops.REPEAT, 1);
@@ -237,7 +231,6 @@ public final class EmitTest {
     }
 
     private static void noBlock() {
-        CHECKS.sentence("Promise 2: END with no block open: NO_BLOCK");
         refused(EMPTY, Ops.END, 1, FixnumBailout.NO_BLOCK);
         refused(Programs.closed(6), Ops.END, 1, FixnumBailout.NO_BLOCK);
         for (int open = 1; open <= 3; open++) {
@@ -251,7 +244,6 @@ public final class EmitTest {
     }
 
     private static void codeFullComesSecond() {
-        CHECKS.sentence("Promise 2: Tests in this order: CODE_FULL ahead of all but BAD_OP");
         int[] highest = Programs.join(Programs.closed(34), Programs.pushes(6));
         int[] deepest = Programs.join(Programs.closed(37), Programs.repeats(3));
         int[] deepAndOne = Programs.join(Programs.closed(36), Programs.repeats(3), Programs.pushes(1));
@@ -268,7 +260,6 @@ public final class EmitTest {
     }
 
     private static void badArgumentComesThird() {
-        CHECKS.sentence("Promise 2: Tests in this order: BAD_ARGUMENT ahead of what the depth and the blocks refuse");
         int[] deep = Programs.repeats(3);
         for (int v : OUTSIDE_0_TO_7) {
             refused(EMPTY, Ops.STORE, v, FixnumBailout.BAD_ARGUMENT);
@@ -282,7 +273,6 @@ public final class EmitTest {
     }
 
     private static void depthComesBeforeBlocks() {
-        CHECKS.sentence("Promise 2: Tests in this order: STACK_LOW, NOT_EMPTY, then TOO_DEEP and NO_BLOCK");
         int[] deep = Programs.repeats(3);
         refused(EMPTY, Ops.IF, 1, FixnumBailout.STACK_LOW);
         refused(deep, Ops.IF, 1, FixnumBailout.STACK_LOW);
@@ -298,10 +288,38 @@ public final class EmitTest {
     }
 
     private static void refusedCallsChangeNothing() {
-        CHECKS.sentence("Promise 2: A refused call changes nothing.");
-        int[] program = Programs.join(Programs.closed(8), Programs.blocks(3, 5), Programs.pushes(6));
+        int[] start = Programs.telling();
+        int[] deep = Programs.join(start, Programs.blocks(3, 2));
+        int[] full = Programs.join(start, start, start, start);
+        int[] fullAndOpen = Programs.join(start, start, start, Programs.blocks(3, 2), Programs.pushes(6));
+        refused(Programs.join(deep, Programs.pushes(2)), 12, 1, FixnumBailout.BAD_OP);
+        refused(full, -1, 1, FixnumBailout.BAD_OP);
+        refused(full, Ops.LOAD, 1, FixnumBailout.CODE_FULL);
+        refused(full, Ops.END, 1, FixnumBailout.CODE_FULL);
+        refused(fullAndOpen, Ops.STORE, 1, FixnumBailout.CODE_FULL);
+        refused(Programs.join(Programs.closed(38), Programs.pushes(2)), Ops.ADD, 1, FixnumBailout.CODE_FULL);
+        refused(Programs.join(Programs.closed(38), Programs.repeats(2)), Ops.END, 1, FixnumBailout.CODE_FULL);
+        refused(Programs.join(deep, Programs.pushes(1)), Ops.STORE, 8, FixnumBailout.BAD_ARGUMENT);
+        refused(deep, Ops.LOAD, -1, FixnumBailout.BAD_ARGUMENT);
+        refused(start, Ops.REPEAT, 7, FixnumBailout.BAD_ARGUMENT);
+        refused(start, Ops.STORE, 1, FixnumBailout.STACK_LOW);
+        refused(deep, Ops.STORE, 1, FixnumBailout.STACK_LOW);
+        refused(deep, Ops.IF, 1, FixnumBailout.STACK_LOW);
+        refused(Programs.join(deep, Programs.pushes(1)), Ops.ADD, 1, FixnumBailout.STACK_LOW);
+        refused(Programs.join(deep, Programs.pushes(6)), Ops.PUSH, 1, FixnumBailout.STACK_HIGH);
+        refused(Programs.join(deep, Programs.pushes(6)), Ops.LOAD, 1, FixnumBailout.STACK_HIGH);
+        refused(Programs.join(deep, Programs.pushes(2)), Ops.IF, 1, FixnumBailout.NOT_EMPTY);
+        refused(Programs.join(start, Programs.pushes(1)), Ops.REPEAT, 1, FixnumBailout.NOT_EMPTY);
+        refused(Programs.join(deep, Programs.pushes(3)), Ops.END, 1, FixnumBailout.NOT_EMPTY);
+        refused(deep, Ops.REPEAT, 1, FixnumBailout.TOO_DEEP);
+        refused(Programs.join(deep, Programs.pushes(1)), Ops.IF, 1, FixnumBailout.TOO_DEEP);
+        refused(start, Ops.END, 1, FixnumBailout.NO_BLOCK);
+    }
+
+    private static void manyRefusedCalls() {
+        int[] program = Programs.join(Programs.telling(), Programs.blocks(3, 5), Programs.pushes(6));
         CHECKS.due("the change by many refused calls", Alike.changeBy(() -> Machines.filled(program), machine -> {
-            for (int round = 0; round < 20; round++) {
+            for (int round = 0; round < 10; round++) {
                 CHECKS.due("emit(12, 1)", machine.emit(12, 1), FixnumBailout.BAD_OP);
                 CHECKS.due("emit(LOAD, 8)", machine.emit(Ops.LOAD, 8), FixnumBailout.BAD_ARGUMENT);
                 CHECKS.due("emit(PUSH, 1)", machine.emit(Ops.PUSH, 1), FixnumBailout.STACK_HIGH);
@@ -312,7 +330,6 @@ public final class EmitTest {
     }
 
     private static void indexOfTheToken() {
-        CHECKS.sentence("Promise 2: Else answers the token's index.");
         FixnumBailout machine = new FixnumBailout();
         for (int round = 0; round < 2; round++) {
             for (int index = 0; index < 40; index++) {
@@ -325,7 +342,6 @@ public final class EmitTest {
     }
 
     private static void clearDropsAllTokens() {
-        CHECKS.sentence("Promise 3: Drops all tokens.");
         int[][] programs = {
             EMPTY, Programs.pushes(1), Programs.pushes(6), Programs.repeats(1), Programs.repeats(3), FULL,
             Programs.blocks(3, 7), Programs.join(Programs.closed(31), Programs.repeats(3), Programs.pushes(6))};
@@ -343,7 +359,6 @@ public final class EmitTest {
     }
 
     private static void clearLetsVariablesStay() {
-        CHECKS.sentence("Promise 3: Variables stay.");
         FixnumBailout machine = new FixnumBailout();
         Ops.put(machine, 0, Numbers.LARGEST);
         Ops.put(machine, 7, Numbers.LEAST);
@@ -360,7 +375,6 @@ public final class EmitTest {
     }
 
     private static void howManyTokens() {
-        CHECKS.sentence("Promise 6: How many tokens the program has.");
         FixnumBailout machine = new FixnumBailout();
         for (int count = 0; count < 40; count++) {
             CHECKS.due("tokens()", machine.tokens(), count);

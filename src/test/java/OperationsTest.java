@@ -7,30 +7,34 @@ public final class OperationsTest {
     private static final int MAX = Integer.MAX_VALUE;
 
     public static void main(String[] args) {
-        push();
-        load();
-        store();
-        add();
-        sub();
-        mul();
-        div();
-        CHECKS.sentence("Terms: DIV: if y is 0 the run stops with ZERO_DIVIDE");
-        zeroDivisor(Ops.DIV);
-        mod();
-        CHECKS.sentence("Terms: MOD: y 0 as above");
-        zeroDivisor(Ops.MOD);
-        less();
-        ifGoesOnWithTheNextToken();
-        ifGoesOnBehindItsEnd();
-        ifInIf();
-        repeatRounds();
-        repeatInRepeat();
-        endOfTheInnermost();
+        CHECKS.sentence("Terms: PUSH n pushes the int n", OperationsTest::push);
+        CHECKS.sentence("Terms: LOAD v pushes variable v", OperationsTest::load);
+        CHECKS.sentence("Terms: STORE v pops x; variable v becomes x", OperationsTest::store);
+        CHECKS.sentence("Terms: ADD pops y, then x; pushes x + y", OperationsTest::add);
+        CHECKS.sentence("Terms: SUB pops y, then x; pushes x - y", OperationsTest::sub);
+        CHECKS.sentence("Terms: MUL pops y, then x; pushes x * y", OperationsTest::mul);
+        CHECKS.sentence("Terms: DIV pops y, then x; pushes x / y, rounded toward zero", OperationsTest::div);
+        CHECKS.sentence("Terms: DIV: if y is 0 the run stops with ZERO_DIVIDE", () -> zeroDivisor(Ops.DIV));
+        CHECKS.sentence("Terms: MOD pushes x - y * (x / y) with that quotient (it has the sign of x, or is 0)",
+            OperationsTest::mod);
+        CHECKS.sentence("Terms: MOD: y 0 as above", () -> zeroDivisor(Ops.MOD));
+        CHECKS.sentence("Terms: a result is that of x and y alone, whatever was calculated before",
+            OperationsTest::calculationsInARow);
+        CHECKS.sentence("Terms: LESS pops y, then x; pushes 1 if x < y, else 0", OperationsTest::less);
+        CHECKS.sentence("Terms: IF pops x; if x is 0 .., else with the next token",
+            OperationsTest::ifGoesOnWithTheNextToken);
+        CHECKS.sentence("Terms: IF pops x; if x is 0 the run goes on behind the matching END",
+            OperationsTest::ifGoesOnBehindItsEnd);
+        CHECKS.sentence("Terms: the matching END of an IF with others inside it", OperationsTest::ifInIf);
+        CHECKS.sentence("Terms: REPEAT n: the tokens up to the matching END are carried out n times, n 1 to 6",
+            OperationsTest::repeatRounds);
+        CHECKS.sentence("Terms: a REPEAT inside another has all its rounds in each of the other's",
+            OperationsTest::repeatInRepeat);
+        CHECKS.sentence("Terms: END ends the innermost open IF or REPEAT", OperationsTest::endOfTheInnermost);
         CHECKS.finish();
     }
 
     private static void push() {
-        CHECKS.sentence("Terms: PUSH n pushes the int n");
         for (int n : new int[] {MIN, MIN + 1, -100000000, -99999999, -1, 0, 1, 99999999, 100000000, MAX - 1, MAX}) {
             FixnumBailout machine = Machines.filled(Ops.PUSH, n, Ops.STORE, 2);
             CHECKS.due("run() of PUSH " + n, machine.run(), FixnumBailout.DONE);
@@ -46,7 +50,6 @@ public final class OperationsTest {
     }
 
     private static void load() {
-        CHECKS.sentence("Terms: LOAD v pushes variable v");
         for (int v = 0; v <= 7; v++) {
             FixnumBailout machine = Machines.filled();
             BigInteger value = Ops.read(machine, v);
@@ -65,7 +68,6 @@ public final class OperationsTest {
     }
 
     private static void store() {
-        CHECKS.sentence("Terms: STORE v pops x; variable v becomes x");
         for (int v = 0; v <= 7; v++) {
             for (int n : new int[] {0, 1, MIN, MAX}) {
                 int each = v;
@@ -95,7 +97,6 @@ public final class OperationsTest {
     }
 
     private static void add() {
-        CHECKS.sentence("Terms: ADD pops y, then x; pushes x + y");
         calculation("5", Ops.ADD, "3", "8");
         calculation("5", Ops.ADD, "-8", "-3");
         calculation("-5", Ops.ADD, "5", "0");
@@ -116,7 +117,6 @@ public final class OperationsTest {
     }
 
     private static void sub() {
-        CHECKS.sentence("Terms: SUB pops y, then x; pushes x - y");
         calculation("5", Ops.SUB, "3", "2");
         calculation("3", Ops.SUB, "5", "-2");
         calculation("-3", Ops.SUB, "-3", "0");
@@ -135,7 +135,6 @@ public final class OperationsTest {
     }
 
     private static void mul() {
-        CHECKS.sentence("Terms: MUL pops y, then x; pushes x * y");
         calculation("6", Ops.MUL, "7", "42");
         calculation("-6", Ops.MUL, "7", "-42");
         calculation("6", Ops.MUL, "-7", "-42");
@@ -150,7 +149,6 @@ public final class OperationsTest {
     }
 
     private static void div() {
-        CHECKS.sentence("Terms: DIV pops y, then x; pushes x / y, rounded toward zero");
         int[][] rounded = {
             {7, 2, 3}, {-7, 2, -3}, {7, -2, -3}, {-7, -2, 3}, {6, 2, 3}, {-6, 2, -3}, {5, 3, 1}, {-5, 3, -1}, {-5, -3, 1},
             {2, 3, 0}, {-2, 3, 0}, {2, -3, 0}, {-2, -3, 0}, {3, 3, 1}, {-3, 3, -1}, {4, 3, 1}, {-4, 3, -1},
@@ -170,7 +168,6 @@ public final class OperationsTest {
     }
 
     private static void mod() {
-        CHECKS.sentence("Terms: MOD pushes x - y * (x / y) with that quotient (it has the sign of x, or is 0)");
         int[][] left = {
             {7, 2, 1}, {-7, 2, -1}, {7, -2, 1}, {-7, -2, -1}, {6, 2, 0}, {-6, 2, 0}, {6, -2, 0}, {5, 3, 2}, {-5, 3, -2},
             {2, 3, 2}, {-2, 3, -2}, {2, -3, 2}, {-2, -3, -2}, {3, 3, 0}, {-3, 3, 0}, {4, 3, 1}, {-4, 3, -1},
@@ -198,8 +195,29 @@ public final class OperationsTest {
         CHECKS.due("variable 2 after it", Ops.read(computed, 2), Numbers.LARGEST);
     }
 
+    private static void calculationsInARow() {
+        BigInteger divisor = Numbers.LARGEST.subtract(BigInteger.valueOf(3));
+        FixnumBailout machine = new FixnumBailout();
+        Ops.put(machine, 0, Numbers.LARGEST);
+        Ops.put(machine, 1, divisor);
+        Ops.put(machine, 2, Numbers.LARGEST.subtract(BigInteger.valueOf(4)));
+        int[] first = Programs.of(Ops.LOAD, 2, Ops.LOAD, 1, Ops.MOD, 0, Ops.STORE, 3);
+        int[] longest = Programs.of(Ops.LOAD, 0, Ops.LOAD, 1, Ops.MOD, 0, Ops.STORE, 4);
+        int[] shortest = Programs.of(Ops.PUSH, -7, Ops.PUSH, 2, Ops.DIV, 0, Ops.STORE, 5);
+        int[] products = Programs.of(Ops.LOAD, 0, Ops.PUSH, 1, Ops.MUL, 0,
+            Ops.PUSH, 3, Ops.PUSH, 4, Ops.MUL, 0, Ops.STORE, 6, Ops.STORE, 7);
+        Ops.emitAll(machine, Programs.join(first, longest, first, shortest, products));
+        for (int run = 0; run < 2; run++) {
+            CHECKS.due("run()", machine.run(), FixnumBailout.DONE);
+            CHECKS.due("the greatest remainder", Ops.read(machine, 3), divisor.subtract(Numbers.ONE));
+            CHECKS.due("a remainder behind it", machine.asInt(4), 3);
+            CHECKS.due("a quotient behind that", machine.asInt(5), -3);
+            CHECKS.due("a short product behind a long one", machine.asInt(6), 12);
+            CHECKS.due("the long product", Ops.read(machine, 7), Numbers.LARGEST);
+        }
+    }
+
     private static void less() {
-        CHECKS.sentence("Terms: LESS pops y, then x; pushes 1 if x < y, else 0");
         for (BigInteger x : Numbers.EDGES) {
             calculation(x, Ops.LESS, x, "0");
             calculation(x, Ops.LESS, x.negate(), x.signum() < 0 ? "1" : "0");
@@ -218,7 +236,6 @@ public final class OperationsTest {
     }
 
     private static void ifGoesOnWithTheNextToken() {
-        CHECKS.sentence("Terms: IF pops x; if x is 0 .., else with the next token");
         for (BigInteger condition : Numbers.EDGES) {
             if (condition.signum() == 0) {
                 continue;
@@ -236,7 +253,6 @@ public final class OperationsTest {
     }
 
     private static void ifGoesOnBehindItsEnd() {
-        CHECKS.sentence("Terms: IF pops x; if x is 0 the run goes on behind the matching END");
         FixnumBailout zero = withCondition(BigInteger.ZERO);
         CHECKS.due("run() with IF 0", zero.run(), FixnumBailout.DONE);
         CHECKS.due("inside IF 0", zero.asInt(1), 0);
@@ -257,7 +273,6 @@ public final class OperationsTest {
     }
 
     private static void ifInIf() {
-        CHECKS.sentence("Terms: the matching END of an IF with others inside it");
         for (int bits = 0; bits < 8; bits++) {
             nestedIfs(bits & 1, bits >> 1 & 1, bits >> 2);
         }
@@ -277,7 +292,6 @@ public final class OperationsTest {
     }
 
     private static void repeatRounds() {
-        CHECKS.sentence("Terms: REPEAT n: the tokens up to the matching END are carried out n times, n 1 to 6");
         for (int n = 1; n <= 6; n++) {
             FixnumBailout machine = Machines.with(Programs.join(
                 Programs.count(2), Programs.of(Ops.REPEAT, n), Programs.count(0), Programs.ends(1), Programs.count(1)));
@@ -294,7 +308,6 @@ public final class OperationsTest {
     }
 
     private static void repeatInRepeat() {
-        CHECKS.sentence("Terms: a REPEAT inside another has all its rounds in each of the other's");
         for (int n = 1; n <= 6; n++) {
             for (int m = 1; m <= 6; m++) {
                 FixnumBailout machine = Machines.with(Programs.join(
@@ -313,7 +326,6 @@ public final class OperationsTest {
     }
 
     private static void endOfTheInnermost() {
-        CHECKS.sentence("Terms: END ends the innermost open IF or REPEAT");
         int[] odd = Programs.of(Ops.LOAD, 0, Ops.PUSH, 2, Ops.MOD, 0, Ops.IF, 0);
         FixnumBailout ifInside = Machines.with(Programs.join(
             Programs.of(Ops.REPEAT, 5), Programs.count(0), odd,

@@ -60,15 +60,19 @@ final class Ops {
         }
     }
 
+    /** Reads a variable digit by digit; digits that are no digits, or don't go with the sign, are a fault of the machine. */
     static BigInteger read(FixnumBailout machine, int variable) {
-        BigInteger value = BigInteger.ZERO;
-        for (int i = machine.digits(variable) - 1; i >= 0; i--) {
-            value = value.multiply(BigInteger.TEN).add(BigInteger.valueOf(machine.digit(variable, i)));
-        }
+        int digits = machine.digits(variable);
         int sign = machine.sign(variable);
-        if ((sign == 0) != (value.signum() == 0)) {
-            throw new IllegalStateException("variable " + variable + " has the sign " + sign + " and the digits " + value);
+        StringBuilder text = new StringBuilder();
+        for (int i = digits - 1; i >= 0; i--) {
+            text.append(machine.digit(variable, i));
         }
-        return value.multiply(BigInteger.valueOf(sign));
+        boolean wellFormed = text.toString().matches(sign == 0 ? "0" : "[1-9][0-9]*") && text.length() == digits;
+        if (!wellFormed) {
+            throw new IllegalStateException("variable " + variable + " has the sign " + sign + " and the digits " + text);
+        }
+        BigInteger value = new BigInteger(text.toString());
+        return sign < 0 ? value.negate() : value;
     }
 }

@@ -59,6 +59,12 @@ final class Programs {
         return all;
     }
 
+    /** Ten closed tokens of which none could be another without a run's showing it, in the variables 6 and 7. */
+    static int[] telling() {
+        return of(Ops.LOAD, 6, Ops.PUSH, 7, Ops.SUB, 0, Ops.STORE, 6,
+            Ops.REPEAT, 3, Ops.LOAD, 7, Ops.PUSH, 2, Ops.MUL, 0, Ops.STORE, 7, Ops.END, 0);
+    }
+
     /** Tokens that add 1 to a variable. */
     static int[] count(int variable) {
         return of(Ops.LOAD, variable, Ops.PUSH, 1, Ops.ADD, 0, Ops.STORE, variable);

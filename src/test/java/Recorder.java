@@ -33,9 +33,13 @@ final class Recorder {
         answers.add("run() = " + machine.run());
     }
 
-    /** Empties the stack into the variables and closes the blocks. */
+    /** Empties the stack into the variables, counts the rounds of the open blocks, and closes them. */
     void finishProgram() {
         for (int v = 0; v < 7 && emit(Ops.STORE, v); v++) {
+            continue;
+        }
+        int[] count = Programs.count(6);
+        for (int i = 0; i < count.length && emit(count[i], count[i + 1]); i += 2) {
             continue;
         }
         for (int i = 0; i < 4 && emit(Ops.END, 0); i++) {

@@ -8,24 +8,28 @@ public final class RunTest {
     private static final int[] GROW_TOO_BIG = Programs.of(Ops.LOAD, 2, Ops.PUSH, 1, Ops.ADD, 0, Ops.STORE, 7);
 
     public static void main(String[] args) {
-        fromItsFirstToken();
-        onTheVariablesAsTheyAre();
-        depthNotZero();
-        blockOpen();
-        unfinishedBothWays();
-        unfinishedThenFinished();
-        doneAfterTheLastToken();
-        stopped();
-        stoppedInARound();
-        grownTooBigInARound();
-        whatWasStoredStays();
-        afterAStop();
-        emptyProgram();
+        CHECKS.sentence("Promise 5: Carries the program out from its first token", RunTest::fromItsFirstToken);
+        CHECKS.sentence("Promise 5: on the variables as they are", RunTest::onTheVariablesAsTheyAre);
+        CHECKS.sentence("Promise 5: The depth is not 0: UNFINISHED, nothing changes.", RunTest::depthNotZero);
+        CHECKS.sentence("Promise 5: or a block is open: UNFINISHED, nothing changes.", RunTest::blockOpen);
+        CHECKS.sentence("Promise 5: The depth is not 0 and a block is open: UNFINISHED, nothing changes.",
+            RunTest::unfinishedBothWays);
+        CHECKS.sentence("Promise 5: a program that was UNFINISHED is carried out once it is finished",
+            RunTest::unfinishedThenFinished);
+        CHECKS.sentence("Promise 5: Else DONE after the last token", RunTest::doneAfterTheLastToken);
+        CHECKS.sentence("Promise 5: or ZERO_DIVIDE or TOO_BIG if it stopped", RunTest::stopped);
+        CHECKS.sentence("Promise 5: a run stops in the round of a REPEAT in which it must, not sooner and not later",
+            RunTest::stoppedInARound);
+        CHECKS.sentence("Promise 5: a run stops with TOO_BIG by the first result that is, and no other",
+            RunTest::grownTooBigInARound);
+        CHECKS.sentence("Promise 5: what was stored before stays.", RunTest::whatWasStoredStays);
+        CHECKS.sentence("Promise 5: after a stop the program is as it was, and the next run begins with an empty stack",
+            RunTest::afterAStop);
+        CHECKS.sentence("Promise 5: An empty program is DONE.", RunTest::emptyProgram);
         CHECKS.finish();
     }
 
     private static void fromItsFirstToken() {
-        CHECKS.sentence("Promise 5: Carries the program out from its first token");
         FixnumBailout machine = Machines.with(Programs.count(0));
         for (int run = 1; run <= 10; run++) {
             CHECKS.due("run() number " + run, machine.run(), FixnumBailout.DONE);
@@ -43,7 +47,6 @@ public final class RunTest {
     }
 
     private static void onTheVariablesAsTheyAre() {
-        CHECKS.sentence("Promise 5: on the variables as they are");
         FixnumBailout machine = Machines.with(Ops.LOAD, 0, Ops.LOAD, 7, Ops.SUB, 0, Ops.STORE, 7);
         long seven = 0;
         for (int zero : new int[] {5, -5, Integer.MAX_VALUE, 0, 12}) {
@@ -63,8 +66,7 @@ public final class RunTest {
     }
 
     private static void depthNotZero() {
-        CHECKS.sentence("Promise 5: The depth is not 0: UNFINISHED, nothing changes.");
-        int[] storing = Programs.closed(10);
+        int[] storing = Programs.telling();
         for (int depth = 1; depth <= 6; depth++) {
             unfinished(Programs.pushes(depth));
             unfinished(Programs.join(storing, Programs.pushes(depth)));
@@ -78,17 +80,17 @@ public final class RunTest {
     }
 
     private static void blockOpen() {
-        CHECKS.sentence("Promise 5: or a block is open: UNFINISHED, nothing changes.");
-        int[] storing = Programs.closed(10);
+        int[] ahead = Programs.telling();
+        int[] inside = Programs.count(6);
         for (int bits = 0; bits < 8; bits++) {
             for (int open = 1; open <= 3; open++) {
                 int[] blocks = Programs.blocks(open, bits);
                 unfinished(blocks);
-                unfinished(Programs.join(storing, blocks));
-                unfinished(Programs.join(blocks, storing));
+                unfinished(Programs.join(ahead, blocks));
+                unfinished(Programs.join(blocks, inside));
                 unfinished(Programs.join(blocks, Programs.ends(open - 1)));
-                unfinished(Programs.join(blocks, storing, Programs.ends(open - 1)));
-                int[] closed = Programs.join(blocks, storing, Programs.ends(open));
+                unfinished(Programs.join(blocks, inside, Programs.ends(open - 1)));
+                int[] closed = Programs.join(blocks, inside, Programs.ends(open));
                 CHECKS.due("run() with no block open", Machines.filled(closed).run(), FixnumBailout.DONE);
             }
         }
@@ -96,16 +98,14 @@ public final class RunTest {
     }
 
     private static void unfinishedBothWays() {
-        CHECKS.sentence("Promise 5: The depth is not 0 and a block is open: UNFINISHED, nothing changes.");
         for (int open = 1; open <= 3; open++) {
             for (int depth = 1; depth <= 6; depth++) {
-                unfinished(Programs.join(Programs.closed(4), Programs.blocks(open, 2), Programs.pushes(depth)));
+                unfinished(Programs.join(Programs.telling(), Programs.blocks(open, 2), Programs.pushes(depth)));
             }
         }
     }
 
     private static void unfinishedThenFinished() {
-        CHECKS.sentence("Promise 5: a program that was UNFINISHED is carried out once it is finished");
         FixnumBailout machine = Machines.with(Ops.REPEAT, 2, Ops.LOAD, 0, Ops.PUSH, 5);
         CHECKS.due("run() with depth 2", machine.run(), FixnumBailout.UNFINISHED);
         Ops.emitAll(machine, Ops.ADD, 0);
@@ -118,7 +118,6 @@ public final class RunTest {
     }
 
     private static void doneAfterTheLastToken() {
-        CHECKS.sentence("Promise 5: Else DONE after the last token");
         for (int tokens = 2; tokens <= 40; tokens++) {
             FixnumBailout machine = Machines.with(Programs.closed(tokens));
             CHECKS.due("run() of " + tokens + " tokens", machine.run(), FixnumBailout.DONE);
@@ -132,7 +131,6 @@ public final class RunTest {
     }
 
     private static void stopped() {
-        CHECKS.sentence("Promise 5: or ZERO_DIVIDE or TOO_BIG if it stopped");
         int[][] programs = {DIVIDE_BY_ZERO, MOD_BY_ZERO, GROW_TOO_BIG};
         int[] outcomes = {FixnumBailout.ZERO_DIVIDE, FixnumBailout.ZERO_DIVIDE, FixnumBailout.TOO_BIG};
         for (int i = 0; i < programs.length; i++) {
@@ -160,7 +158,6 @@ public final class RunTest {
     }
 
     private static void stoppedInARound() {
-        CHECKS.sentence("Promise 5: a run stops in the round of a REPEAT in which it must, not sooner and not later");
         for (int last = 1; last <= 6; last++) {
             FixnumBailout machine = new FixnumBailout();
             machine.set(0, last);
@@ -179,7 +176,6 @@ public final class RunTest {
     }
 
     private static void grownTooBigInARound() {
-        CHECKS.sentence("Promise 5: a run stops with TOO_BIG by the first result that is, and no other");
         FixnumBailout squares = Machines.with(Ops.REPEAT, 6, Ops.LOAD, 0, Ops.LOAD, 0, Ops.MUL, 0, Ops.STORE, 0, Ops.END, 0);
         squares.set(0, -10);
         CHECKS.due("run() that grows too big in round 6", squares.run(), FixnumBailout.TOO_BIG);
@@ -192,7 +188,6 @@ public final class RunTest {
     }
 
     private static void whatWasStoredStays() {
-        CHECKS.sentence("Promise 5: what was stored before stays.");
         for (int[] stopping : new int[][] {DIVIDE_BY_ZERO, MOD_BY_ZERO, GROW_TOO_BIG}) {
             FixnumBailout machine = Machines.filled(Programs.join(
                 Programs.of(Ops.PUSH, 5, Ops.STORE, 0, Ops.LOAD, 2, Ops.STORE, 1, Ops.PUSH, 8), stopping,
@@ -209,7 +204,6 @@ public final class RunTest {
     }
 
     private static void afterAStop() {
-        CHECKS.sentence("Promise 5: after a stop the program is as it was, and the next run begins with an empty stack");
         for (int[] stopping : new int[][] {DIVIDE_BY_ZERO, MOD_BY_ZERO, GROW_TOO_BIG}) {
             int[] program = Programs.join(Programs.pushes(4), stopping,
                 Programs.of(Ops.STORE, 3, Ops.STORE, 3, Ops.STORE, 3, Ops.STORE, 3));
@@ -230,7 +224,6 @@ public final class RunTest {
     }
 
     private static void emptyProgram() {
-        CHECKS.sentence("Promise 5: An empty program is DONE.");
         CHECKS.due("run() of a new object", new FixnumBailout().run(), FixnumBailout.DONE);
         CHECKS.due("run() without tokens", Machines.filled().run(), FixnumBailout.DONE);
         CHECKS.due("the change by it", Alike.changeBy(Machines::filled, FixnumBailout::run), Alike.NO_DIFFERENCE);

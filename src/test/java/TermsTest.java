@@ -6,23 +6,26 @@ public final class TermsTest {
     private static final String LIMIT = "Terms: if the result has more than 40 decimal digits the run stops with TOO_BIG: ";
 
     public static void main(String[] args) {
-        fiveHundredTwelveCalls();
-        eightVariables();
-        fortyTokens();
-        CHECKS.sentence(LIMIT + "ADD");
-        limitOfSums(Ops.ADD);
-        CHECKS.sentence(LIMIT + "SUB");
-        limitOfSums(Ops.SUB);
-        limitOfMul();
-        limitOfDivAndMod();
-        limitOfWhatIsBetween();
-        depthOfEveryOperation();
-        depthIsTheSameInEveryRun();
+        CHECKS.sentence("What it is: An object is used for at most 512 calls after it has been made",
+            TermsTest::fiveHundredTwelveCalls);
+        CHECKS.sentence("Terms: Eight variables (0 to 7) hold whole numbers, all 0 at the start.",
+            TermsTest::eightVariables);
+        CHECKS.sentence("Terms: A PROGRAM is a list of at most 40 tokens", TermsTest::fortyTokens);
+        CHECKS.sentence(LIMIT + "ADD", () -> limitOfSums(Ops.ADD));
+        CHECKS.sentence(LIMIT + "SUB", () -> limitOfSums(Ops.SUB));
+        CHECKS.sentence(LIMIT + "MUL", TermsTest::limitOfMul);
+        CHECKS.sentence("Terms: DIV, MOD and LESS of numbers of 40 digits are never too big",
+            TermsTest::limitOfDivAndMod);
+        CHECKS.sentence("Terms: a result on the way counts too, though what is made of it would be small",
+            TermsTest::limitOfWhatIsBetween);
+        CHECKS.sentence("Terms: PUSH and LOAD add 1; STORE, ADD, SUB, MUL, DIV, MOD, LESS and IF take 1 away; "
+            + "others change nothing.", TermsTest::depthOfEveryOperation);
+        CHECKS.sentence("Terms: It is the same in every run, as IF, REPEAT and END need the stack empty.",
+            TermsTest::depthIsTheSameInEveryRun);
         CHECKS.finish();
     }
 
     private static void fiveHundredTwelveCalls() {
-        CHECKS.sentence("What it is: An object is used for at most 512 calls after it has been made");
         FixnumBailout counting = Machines.with(Programs.count(0));
         for (int call = 5; call <= 511; call++) {
             CHECKS.due("run() as call " + call, counting.run(), FixnumBailout.DONE);
@@ -47,7 +50,6 @@ public final class TermsTest {
     }
 
     private static void eightVariables() {
-        CHECKS.sentence("Terms: Eight variables (0 to 7) hold whole numbers, all 0 at the start.");
         FixnumBailout machine = new FixnumBailout();
         for (int v = 0; v <= 7; v++) {
             CHECKS.due("variable " + v + " at the start", Ops.read(machine, v), BigInteger.ZERO);
@@ -63,7 +65,6 @@ public final class TermsTest {
     }
 
     private static void fortyTokens() {
-        CHECKS.sentence("Terms: A PROGRAM is a list of at most 40 tokens");
         FixnumBailout machine = Machines.with(Programs.closed(38));
         CHECKS.due("emit of the 39th token", machine.emit(Ops.PUSH, 987), 38);
         CHECKS.due("emit of the 40th token", machine.emit(Ops.STORE, 4), 39);
@@ -114,7 +115,6 @@ public final class TermsTest {
     }
 
     private static void limitOfMul() {
-        CHECKS.sentence(LIMIT + "MUL");
         for (int i = 0; i <= 39; i++) {
             calculation(Numbers.power(i), Ops.MUL, Numbers.power(39 - i), Numbers.power(39).toString());
             calculation(Numbers.power(i), Ops.MUL, Numbers.power(39 - i).negate(), "-" + Numbers.power(39));
@@ -145,7 +145,6 @@ public final class TermsTest {
     }
 
     private static void limitOfDivAndMod() {
-        CHECKS.sentence("Terms: DIV, MOD and LESS of numbers of 40 digits are never too big");
         BigInteger largest = Numbers.LARGEST;
         calculation(largest, Ops.DIV, Numbers.ONE, largest.toString());
         calculation(largest, Ops.DIV, Numbers.ONE.negate(), "-" + largest);
@@ -161,7 +160,6 @@ public final class TermsTest {
     }
 
     private static void limitOfWhatIsBetween() {
-        CHECKS.sentence("Terms: a result on the way counts too, though what is made of it would be small");
         int[][] programs = {
             {Ops.LOAD, 2, Ops.PUSH, 1, Ops.ADD, 0, Ops.PUSH, 1, Ops.SUB, 0, Ops.STORE, 0},
             {Ops.LOAD, 2, Ops.PUSH, 2, Ops.MUL, 0, Ops.PUSH, 2, Ops.DIV, 0, Ops.STORE, 0},
@@ -175,8 +173,6 @@ public final class TermsTest {
     }
 
     private static void depthOfEveryOperation() {
-        CHECKS.sentence("Terms: PUSH and LOAD add 1; STORE, ADD, SUB, MUL, DIV, MOD, LESS and IF take 1 away; "
-            + "others change nothing.");
         int[] changes = {1, 1, -1, -1, -1, -1, -1, -1, -1, -1, 0, 0};
         for (int op = 0; op <= 11; op++) {
             int accepted = 0;
@@ -196,7 +192,6 @@ public final class TermsTest {
     }
 
     private static void depthIsTheSameInEveryRun() {
-        CHECKS.sentence("Terms: It is the same in every run, as IF, REPEAT and END need the stack empty.");
         for (int condition = 0; condition <= 1; condition++) {
             FixnumBailout machine = Machines.with(Ops.LOAD, 0, Ops.IF, 0, Ops.PUSH, 1, Ops.STORE, 1, Ops.END, 0,
                 Ops.REPEAT, 3, Ops.PUSH, 1, Ops.STORE, 1, Ops.END, 0);

@@ -10,29 +10,34 @@ public final class VariablesTest {
     private static final int[] INTS = {
         0, 1, -1, 9, 10, -10, 99999999, 100000000, -100000000, 100000001, 999999999, 1000000000,
         1073741823, 1073741824, -1073741824, -1073741825, MAX - 1, MAX, MIN, MIN + 1};
-    private static final int[] UNFINISHED = Programs.join(Programs.closed(6), Programs.blocks(2, 1), Programs.pushes(3));
+    private static final int[] UNFINISHED = Programs.join(Programs.telling(), Programs.blocks(2, 1), Programs.pushes(3));
     private static final BigInteger INT_LIMIT = Numbers.powerOfTwo(31);
 
     public static void main(String[] args) {
-        setToAnInt();
-        setRefused();
-        setAnswersZero();
-        questionsChangeNothing();
-        questionsOfNoVariable();
-        signs();
-        signOfComputedZero();
-        numberOfDigits();
-        digitsOfZero();
-        digitFromTheLast();
-        digitBeyond();
-        digitNegative();
-        compareNeighbours();
-        compareEqual();
-        compareRefused();
-        isIntAtItsEdges();
-        isIntOfNoVariable();
-        asIntAtItsEdges();
-        asIntOfNoVariable();
+        CHECKS.sentence("Promise 4: Sets a variable to an int.", VariablesTest::setToAnInt);
+        CHECKS.sentence("Promise 4: variable not in 0 to 7: BAD_ARGUMENT, nothing changes.", VariablesTest::setRefused);
+        CHECKS.sentence("Promise 4: Else answers 0.", VariablesTest::setAnswersZero);
+        CHECKS.sentence("Terms: The calls below change nothing that any call answers.",
+            VariablesTest::questionsChangeNothing);
+        CHECKS.sentence("Terms: variable not in 0 to 7: BAD_ARGUMENT.", VariablesTest::questionsOfNoVariable);
+        CHECKS.sentence("Promise 7: The variable's sign: -1, 0 or 1.", VariablesTest::signs);
+        CHECKS.sentence("Promise 7: the sign of a 0 that was computed is 0", VariablesTest::signOfComputedZero);
+        CHECKS.sentence("Promise 8: How many decimal digits its absolute value has, without leading zeros",
+            VariablesTest::numberOfDigits);
+        CHECKS.sentence("Promise 8: 1 for the number 0.", VariablesTest::digitsOfZero);
+        CHECKS.sentence("Promise 9: Decimal digit number i of its absolute value, i from 0 for the last one",
+            VariablesTest::digitFromTheLast);
+        CHECKS.sentence("Promise 9: 0 for i beyond its digits", VariablesTest::digitBeyond);
+        CHECKS.sentence("Promise 9: i negative: BAD_ARGUMENT too.", VariablesTest::digitNegative);
+        CHECKS.sentence("Promise 10: -1 if variable a is less than variable b, 1 if greater.",
+            VariablesTest::compareNeighbours);
+        CHECKS.sentence("Promise 10: 0 if equal", VariablesTest::compareEqual);
+        CHECKS.sentence("Promise 10: One not in 0 to 7: BAD_ARGUMENT.", VariablesTest::compareRefused);
+        CHECKS.sentence("Promise 11: Whether the variable's number is that of an int.", VariablesTest::isIntAtItsEdges);
+        CHECKS.sentence("Promise 11: False if variable not in 0 to 7.", VariablesTest::isIntOfNoVariable);
+        CHECKS.sentence("Promise 12: The variable's number if it is that of an int; else 0",
+            VariablesTest::asIntAtItsEdges);
+        CHECKS.sentence("Promise 12: 0 also if variable not in 0 to 7.", VariablesTest::asIntOfNoVariable);
         CHECKS.finish();
     }
 
@@ -49,7 +54,6 @@ public final class VariablesTest {
     }
 
     private static void setToAnInt() {
-        CHECKS.sentence("Promise 4: Sets a variable to an int.");
         for (int variable = 0; variable < 8; variable++) {
             for (int value : INTS) {
                 FixnumBailout machine = Machines.filled();
@@ -77,7 +81,6 @@ public final class VariablesTest {
     }
 
     private static void setRefused() {
-        CHECKS.sentence("Promise 4: variable not in 0 to 7: BAD_ARGUMENT, nothing changes.");
         for (int v : NO_VARIABLES) {
             for (int value : new int[] {0, 1, MIN, MAX}) {
                 CHECKS.due("set(" + v + ", " + value + ")", Machines.filled().set(v, value), FixnumBailout.BAD_ARGUMENT);
@@ -87,7 +90,6 @@ public final class VariablesTest {
     }
 
     private static void setAnswersZero() {
-        CHECKS.sentence("Promise 4: Else answers 0.");
         for (int v = 0; v <= 7; v++) {
             for (int value : INTS) {
                 CHECKS.due("set(" + v + ", " + value + ")", Machines.filled(UNFINISHED).set(v, value), 0);
@@ -96,7 +98,6 @@ public final class VariablesTest {
     }
 
     private static void questionsChangeNothing() {
-        CHECKS.sentence("Terms: The calls below change nothing that any call answers.");
         changesNothing("tokens()", FixnumBailout::tokens);
         for (int v : new int[] {-1, 0, 1, 2, 3, 4, 5, 6, 7, 8, MIN, MAX}) {
             changesNothing("sign(" + v + ")", machine -> machine.sign(v));
@@ -113,7 +114,6 @@ public final class VariablesTest {
     }
 
     private static void questionsOfNoVariable() {
-        CHECKS.sentence("Terms: variable not in 0 to 7: BAD_ARGUMENT.");
         for (int v : NO_VARIABLES) {
             FixnumBailout machine = Machines.filled();
             CHECKS.due("sign(" + v + ")", machine.sign(v), FixnumBailout.BAD_ARGUMENT);
@@ -132,7 +132,6 @@ public final class VariablesTest {
     }
 
     private static void signs() {
-        CHECKS.sentence("Promise 7: The variable's sign: -1, 0 or 1.");
         for (int v = 0; v <= 7; v++) {
             for (BigInteger value : Numbers.EDGES) {
                 CHECKS.due("sign of " + value, holding(v, value).sign(v), value.signum());
@@ -144,7 +143,6 @@ public final class VariablesTest {
     }
 
     private static void signOfComputedZero() {
-        CHECKS.sentence("Promise 7: the sign of a 0 that was computed is 0");
         int[][] zeros = {
             {Ops.LOAD, 2, Ops.LOAD, 2, Ops.SUB, 0}, {Ops.LOAD, 5, Ops.LOAD, 5, Ops.SUB, 0},
             {Ops.PUSH, -1, Ops.PUSH, 1, Ops.ADD, 0}, {Ops.PUSH, 1, Ops.PUSH, -1, Ops.ADD, 0},
@@ -165,7 +163,6 @@ public final class VariablesTest {
     }
 
     private static void numberOfDigits() {
-        CHECKS.sentence("Promise 8: How many decimal digits its absolute value has, without leading zeros");
         for (int n = 1; n <= 40; n++) {
             BigInteger first = Numbers.power(n - 1);
             BigInteger last = Numbers.power(n).subtract(Numbers.ONE);
@@ -183,7 +180,6 @@ public final class VariablesTest {
     }
 
     private static void digitsOfZero() {
-        CHECKS.sentence("Promise 8: 1 for the number 0.");
         for (int v = 0; v < 8; v++) {
             CHECKS.due("digits(" + v + ") of a new object", new FixnumBailout().digits(v), 1);
             CHECKS.due("digits(" + v + ") of 0", afterSet(Machines.filled(), v, 0).digits(v), 1);
@@ -193,7 +189,6 @@ public final class VariablesTest {
     }
 
     private static void digitFromTheLast() {
-        CHECKS.sentence("Promise 9: Decimal digit number i of its absolute value, i from 0 for the last one");
         BigInteger mixed = new BigInteger("1234567890918273645546372819012345678987");
         BigInteger[] longest = {mixed, mixed.negate(), Numbers.LARGEST, Numbers.LEAST, Numbers.power(39)};
         for (BigInteger value : longest) {
@@ -218,7 +213,6 @@ public final class VariablesTest {
     }
 
     private static void digitBeyond() {
-        CHECKS.sentence("Promise 9: 0 for i beyond its digits");
         for (int n = 1; n <= 40; n++) {
             BigInteger nines = Numbers.power(n).subtract(Numbers.ONE);
             for (BigInteger value : new BigInteger[] {nines, nines.negate()}) {
@@ -237,7 +231,6 @@ public final class VariablesTest {
     }
 
     private static void digitNegative() {
-        CHECKS.sentence("Promise 9: i negative: BAD_ARGUMENT too.");
         for (int v = 0; v < 8; v++) {
             for (int i : new int[] {-1, -2, -8, -40, MIN + 1, MIN}) {
                 CHECKS.due("digit(" + v + ", " + i + ")", Machines.filled().digit(v, i), FixnumBailout.BAD_ARGUMENT);
@@ -254,7 +247,6 @@ public final class VariablesTest {
     }
 
     private static void compareNeighbours() {
-        CHECKS.sentence("Promise 10: -1 if variable a is less than variable b, 1 if greater.");
         for (BigInteger value : Numbers.EDGES) {
             if (!value.equals(Numbers.LARGEST)) {
                 comparison(value, value.add(Numbers.ONE), -1);
@@ -273,7 +265,6 @@ public final class VariablesTest {
     }
 
     private static void compareEqual() {
-        CHECKS.sentence("Promise 10: 0 if equal");
         for (BigInteger value : Numbers.EDGES) {
             comparison(value, value, 0);
         }
@@ -283,7 +274,6 @@ public final class VariablesTest {
     }
 
     private static void compareRefused() {
-        CHECKS.sentence("Promise 10: One not in 0 to 7: BAD_ARGUMENT.");
         for (int bad : NO_VARIABLES) {
             for (int good = 0; good <= 7; good++) {
                 FixnumBailout machine = Machines.filled();
@@ -316,7 +306,6 @@ public final class VariablesTest {
     }
 
     private static void isIntAtItsEdges() {
-        CHECKS.sentence("Promise 11: Whether the variable's number is that of an int.");
         for (BigInteger value : noInts()) {
             CHECKS.due("isInt of " + value, holding(0, value).isInt(0), false);
             CHECKS.due("isInt of " + value, holding(7, value).isInt(7), false);
@@ -328,7 +317,6 @@ public final class VariablesTest {
     }
 
     private static void isIntOfNoVariable() {
-        CHECKS.sentence("Promise 11: False if variable not in 0 to 7.");
         for (int v : NO_VARIABLES) {
             CHECKS.due("isInt(" + v + ")", new FixnumBailout().isInt(v), false);
             CHECKS.due("isInt(" + v + ")", Machines.filled(UNFINISHED).isInt(v), false);
@@ -339,7 +327,6 @@ public final class VariablesTest {
     }
 
     private static void asIntAtItsEdges() {
-        CHECKS.sentence("Promise 12: The variable's number if it is that of an int; else 0");
         for (BigInteger value : noInts()) {
             CHECKS.due("asInt of " + value, holding(0, value).asInt(0), 0);
             CHECKS.due("asInt of " + value, holding(7, value).asInt(7), 0);
@@ -351,7 +338,6 @@ public final class VariablesTest {
     }
 
     private static void asIntOfNoVariable() {
-        CHECKS.sentence("Promise 12: 0 also if variable not in 0 to 7.");
         FixnumBailout machine = new FixnumBailout();
         for (int v = 0; v <= 7; v++) {
             machine.set(v, 100 + v);
