@@ -267,7 +267,7 @@ public final class FixnumBailout {
         return at + 1;
     }
 
-    /** Carries out any other token; emit has seen to it that the stack holds what it pops and has room for what it pushes. */
+    /** Carries out any other token; emit has seen to it that the stack holds all it pops and has room for all it pushes. */
     private int carryOut(int op, int argument) {
         if (op == PUSH) {
             writeInt(STACK + height, argument);

@@ -10,6 +10,7 @@ public final class EmitTest {
 
     public static void main(String[] args) {
         CHECKS.sentence("Promise 1: No tokens; all variables 0.", EmitTest::newObject);
+        CHECKS.sentence("Promise 2: Appends a token to the program.", EmitTest::appendsAToken);
         CHECKS.sentence("Promise 2: op not in 0 to 11: BAD_OP", EmitTest::badOp);
         CHECKS.sentence("Promise 2: the program has 40 tokens: CODE_FULL", EmitTest::codeFull);
         CHECKS.sentence("Promise 2: op LOAD or STORE with argument not in 0 to 7: BAD_ARGUMENT", EmitTest::badVariable);
@@ -77,12 +78,32 @@ public final class EmitTest {
             }
             CHECKS.due("isInt(" + v + ")", machine.isInt(v), true);
             CHECKS.due("asInt(" + v + ")", machine.asInt(v), 0);
+            CHECKS.due("compare(" + v + ", 0)", machine.compare(v, 0), 0);
         }
         CHECKS.due("the change by clear()", Alike.changeBy(FixnumBailout::new, FixnumBailout::clear), Alike.NO_DIFFERENCE);
         CHECKS.due("what the use of another object changes", Alike.difference(() -> {
             Machines.filled(FULL).run();
             return new FixnumBailout();
         }, FixnumBailout::new), Alike.NO_DIFFERENCE);
+    }
+
+    private static void appendsAToken() {
+        // Twice the number and one more: in another order, or with a token lost, another number comes out.
+        int[] step = Programs.of(Ops.LOAD, 0, Ops.PUSH, 2, Ops.MUL, 0, Ops.PUSH, 1, Ops.ADD, 0, Ops.STORE, 0);
+        FixnumBailout machine = new FixnumBailout();
+        for (int steps = 1; steps <= 6; steps++) {
+            for (int i = 0; i < step.length; i += 2) {
+                int index = (steps - 1) * 6 + i / 2;
+                CHECKS.due("emit of token " + index, machine.emit(step[i], step[i + 1]), index);
+                CHECKS.due("tokens() after it", machine.tokens(), index + 1);
+            }
+            machine.set(0, 1);
+            CHECKS.due("run() of " + steps + " steps", machine.run(), FixnumBailout.DONE);
+            CHECKS.due("asInt(0) after it", machine.asInt(0), (2 << steps) - 1);
+        }
+        Ops.emitAll(machine, Ops.PUSH, 5, Ops.STORE, 0);
+        CHECKS.due("run() with a last STORE", machine.run(), FixnumBailout.DONE);
+        CHECKS.due("asInt(0) after it", machine.asInt(0), 5);
     }
 
     private static void badOp() {

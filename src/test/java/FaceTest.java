@@ -5,16 +5,24 @@ import java.lang.reflect.Modifier;
 import java.util.Set;
 import java.util.TreeSet;
 
-/** The public face of the document, and rules 1, 2, 5 and 10 of LANGUAGE.md as far as the compiled class shows them. */
+/** The document's "The public face", as the compiled class shows it. */
 public final class FaceTest {
     private static final Checks CHECKS = new Checks();
 
     public static void main(String[] args) {
-        constants();
-        face();
-        fields();
-        privateMethods();
+        CHECKS.sentence("The public face: public final class FixnumBailout", FaceTest::theClass);
+        CHECKS.sentence("The public face: the constants and their numbers", FaceTest::constants);
+        CHECKS.sentence("The public face: the constructor and the methods", FaceTest::methods);
         CHECKS.finish();
+    }
+
+    private static void theClass() {
+        Class<?> face = FixnumBailout.class;
+        CHECKS.due("modifiers", Modifier.toString(face.getModifiers()), "public final");
+        CHECKS.due("name with its package", face.getName(), "FixnumBailout");
+        CHECKS.due("superclass", face.getSuperclass(), Object.class);
+        CHECKS.due("interfaces", face.getInterfaces().length, 0);
+        CHECKS.due("nested classes", face.getDeclaredClasses().length, 0);
     }
 
     private static void constants() {
@@ -30,9 +38,17 @@ public final class FaceTest {
         CHECKS.due("DONE", FixnumBailout.DONE, 0);
         CHECKS.due("ZERO_DIVIDE", FixnumBailout.ZERO_DIVIDE, 1);
         CHECKS.due("TOO_BIG", FixnumBailout.TOO_BIG, 2);
+        int constants = 0;
+        for (Field field : FixnumBailout.class.getDeclaredFields()) {
+            if (!Modifier.isPrivate(field.getModifiers())) {
+                constants++;
+                CHECKS.due("field", field.toString(), "public static final int FixnumBailout." + field.getName());
+            }
+        }
+        CHECKS.due("fields that are not private", constants, 12);
     }
 
-    private static void face() {
+    private static void methods() {
         Set<String> members = new TreeSet<>();
         for (Method method : FixnumBailout.class.getDeclaredMethods()) {
             if (!Modifier.isPrivate(method.getModifiers())) {
@@ -56,44 +72,5 @@ public final class FaceTest {
             "public boolean FixnumBailout.isInt(int)",
             "public int FixnumBailout.asInt(int)");
         CHECKS.due("the members that are not private", members, new TreeSet<>(want));
-        CHECKS.due("the class's modifiers", Modifier.toString(FixnumBailout.class.getModifiers()), "public final");
-        CHECKS.due("nested classes", FixnumBailout.class.getDeclaredClasses().length, 0);
-    }
-
-    private static void fields() {
-        Set<Class<?>> constantTypes = Set.of(int.class, long.class);
-        int publicOnes = 0;
-        int ofObjects = 0;
-        for (Field field : FixnumBailout.class.getDeclaredFields()) {
-            int modifiers = field.getModifiers();
-            Class<?> type = field.getType();
-            if (Modifier.isStatic(modifiers)) {
-                CHECKS.due(field + " is a constant", Modifier.isFinal(modifiers) && constantTypes.contains(type), true);
-            } else {
-                ofObjects++;
-                CHECKS.due(field + " is private", Modifier.isPrivate(modifiers), true);
-                Class<?> cell = type.isArray() ? type.getComponentType() : type;
-                CHECKS.due(field + " is of whole numbers",
-                    cell.isPrimitive() && cell != float.class && cell != double.class, true);
-            }
-            if (!Modifier.isPrivate(modifiers)) {
-                publicOnes++;
-            }
-        }
-        CHECKS.due("fields that are not private", publicOnes, 12);
-        CHECKS.due("at most 40 fields", ofObjects <= 40, true);
-    }
-
-    private static void privateMethods() {
-        Set<String> publicNames = new TreeSet<>();
-        for (Method method : FixnumBailout.class.getMethods()) {
-            publicNames.add(method.getName());
-        }
-        for (Method method : FixnumBailout.class.getDeclaredMethods()) {
-            if (Modifier.isPrivate(method.getModifiers())) {
-                CHECKS.due(method + " has a public name", publicNames.contains(method.getName()), false);
-                CHECKS.due(method + " has at most 7 parameters", method.getParameterCount() <= 7, true);
-            }
-        }
     }
 }

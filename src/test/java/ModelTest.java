@@ -6,9 +6,11 @@ public final class ModelTest {
     private static final Checks CHECKS = new Checks();
     private static final int OBJECTS = 3000;
     private static final int CALLS = 512;
+    private static final int NOTHING = -1;
     private static final int[] INTS = {
         0, 0, 1, 1, -1, 2, -3, 7, 10, 37, -100, 99999999, 100000000, -100000000, 999999999, 1000000007,
         1073741823, 1073741824, -1073741825, Integer.MAX_VALUE, Integer.MIN_VALUE};
+    private static final int[] WILD = {-2, -1, 0, 7, 8, 9, 12, 14, 40, -40, Integer.MAX_VALUE, Integer.MIN_VALUE};
 
     // A plain generator with a fixed start, so that every run of the test makes the same calls.
     private static long state = 20261115;
@@ -36,7 +38,11 @@ public final class ModelTest {
     }
 
     private static int someVariable() {
-        return below(40) == 0 ? below(12) - 2 : below(8);
+        return below(40) == 0 ? WILD[below(WILD.length)] : below(8);
+    }
+
+    private static int someRounds() {
+        return below(20) == 0 ? WILD[below(WILD.length)] : 1 + below(6);
     }
 
     private static void useOneObject(int number) {
@@ -44,6 +50,8 @@ public final class ModelTest {
         Model model = new Model();
         // Objects differ in how many of their calls build programs, so that short and full ones both come up.
         int emits = 30 + below(60);
+        // Some also pile up numbers or blocks, which random tokens alone seldom do.
+        int piled = below(4) == 0 ? below(2) : below(4) == 0 ? Ops.REPEAT : NOTHING;
         boolean finishing = false;
         for (int i = 0; i < CALLS; i++) {
             String call = "object " + number + ", call " + i + ": ";
@@ -61,7 +69,7 @@ public final class ModelTest {
                 run(machine, model, call);
                 finishing = false;
             } else if (below(100) < emits) {
-                emitSome(machine, model, call);
+                emitSome(machine, model, call, piled);
                 finishing = below(30) == 0 || model.tokens() == 32;
             } else {
                 otherCall(machine, model, call);
@@ -69,17 +77,19 @@ public final class ModelTest {
         }
     }
 
-    private static void emitSome(FixnumBailout machine, Model model, String call) {
+    private static void emitSome(FixnumBailout machine, Model model, String call, int piled) {
         int op = below(12);
         int kind = below(60);
         if (kind == 0) {
-            op = below(16) - 2;
+            op = below(2) == 0 ? WILD[below(WILD.length)] : below(12);
+        } else if (piled != NOTHING && below(2) == 0) {
+            op = piled;
         } else if (kind < 45 && model.depth() >= 2) {
             op = kind < 6 ? below(2) : kind < 20 ? 5 : 3 + below(6);
         } else if (kind < 40) {
             op = kind < 3 ? 10 : kind < 12 && model.depth() == 1 ? 2 : below(2);
         }
-        int argument = op == 0 ? someInt() : op == 10 ? below(20) == 0 ? below(10) - 1 : 1 + below(6) : someVariable();
+        int argument = op == 0 ? someInt() : op == 10 ? someRounds() : someVariable();
         emit(machine, model, call, op, argument);
     }
 
@@ -92,7 +102,7 @@ public final class ModelTest {
     private static void otherCall(FixnumBailout machine, Model model, String call) {
         int v = someVariable();
         int w = someVariable();
-        int i = below(50) - 3;
+        int i = below(10) == 0 ? WILD[below(WILD.length)] : below(45);
         switch (below(14)) {
             case 0 -> {
                 if (below(4) == 0) {

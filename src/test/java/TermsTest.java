@@ -6,6 +6,7 @@ public final class TermsTest {
     private static final String LIMIT = "Terms: if the result has more than 40 decimal digits the run stops with TOO_BIG: ";
 
     public static void main(String[] args) {
+        CHECKS.sentence("What it is: A machine for whole numbers without a fixed width.", TermsTest::noFixedWidth);
         CHECKS.sentence("What it is: An object is used for at most 512 calls after it has been made",
             TermsTest::fiveHundredTwelveCalls);
         CHECKS.sentence("Terms: Eight variables (0 to 7) hold whole numbers, all 0 at the start.",
@@ -23,6 +24,31 @@ public final class TermsTest {
         CHECKS.sentence("Terms: It is the same in every run, as IF, REPEAT and END need the stack empty.",
             TermsTest::depthIsTheSameInEveryRun);
         CHECKS.finish();
+    }
+
+    private static void noFixedWidth() {
+        for (int start : new int[] {1, -1}) {
+            FixnumBailout doubling = Machines.with(Ops.LOAD, 0, Ops.PUSH, 2, Ops.MUL, 0, Ops.STORE, 0);
+            doubling.set(0, start);
+            for (int exponent = 0; exponent <= 132; exponent++) {
+                width(doubling, exponent, start);
+                CHECKS.due("run()", doubling.run(), exponent == 132 ? FixnumBailout.TOO_BIG : FixnumBailout.DONE);
+            }
+            FixnumBailout halving = new FixnumBailout();
+            Ops.put(halving, 0, Numbers.powerOfTwo(132).multiply(BigInteger.valueOf(start)));
+            Ops.emitAll(halving, Ops.LOAD, 0, Ops.PUSH, 2, Ops.DIV, 0, Ops.STORE, 0);
+            for (int exponent = 132; exponent >= 0; exponent--) {
+                width(halving, exponent, start);
+                CHECKS.due("run()", halving.run(), FixnumBailout.DONE);
+            }
+            CHECKS.due("half of " + start, halving.sign(0), 0);
+        }
+    }
+
+    private static void width(FixnumBailout machine, int exponent, int sign) {
+        String of = " of 2 to the " + exponent + "th by " + sign;
+        CHECKS.due("digits" + of, machine.digits(0), Numbers.powerOfTwo(exponent).toString().length());
+        CHECKS.due("isInt" + of, machine.isInt(0), exponent <= 30 || exponent == 31 && sign < 0);
     }
 
     private static void fiveHundredTwelveCalls() {

@@ -21,6 +21,7 @@ public final class VariablesTest {
             VariablesTest::questionsChangeNothing);
         CHECKS.sentence("Terms: variable not in 0 to 7: BAD_ARGUMENT.", VariablesTest::questionsOfNoVariable);
         CHECKS.sentence("Promise 7: The variable's sign: -1, 0 or 1.", VariablesTest::signs);
+        CHECKS.sentence("Promise 7: (BAD_ARGUMENT is -2.)", VariablesTest::signOfNoVariable);
         CHECKS.sentence("Promise 7: the sign of a 0 that was computed is 0", VariablesTest::signOfComputedZero);
         CHECKS.sentence("Promise 8: How many decimal digits its absolute value has, without leading zeros",
             VariablesTest::numberOfDigits);
@@ -139,6 +140,13 @@ public final class VariablesTest {
             for (int value : INTS) {
                 CHECKS.due("sign of " + value, afterSet(Machines.filled(), v, value).sign(v), Integer.signum(value));
             }
+        }
+    }
+
+    private static void signOfNoVariable() {
+        for (int v : NO_VARIABLES) {
+            CHECKS.due("sign(" + v + ")", new FixnumBailout().sign(v), -2);
+            CHECKS.due("sign(" + v + ")", Machines.filled(UNFINISHED).sign(v), -2);
         }
     }
 
