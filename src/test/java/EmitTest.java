@@ -87,23 +87,32 @@ public final class EmitTest {
         }, FixnumBailout::new), Alike.NO_DIFFERENCE);
     }
 
+    /** Steps of different lengths and numbers: in another order, or with a token lost, another number comes out. */
     private static void appendsAToken() {
-        // Twice the number and one more: in another order, or with a token lost, another number comes out.
-        int[] step = Programs.of(Ops.LOAD, 0, Ops.PUSH, 2, Ops.MUL, 0, Ops.PUSH, 1, Ops.ADD, 0, Ops.STORE, 0);
-        FixnumBailout machine = new FixnumBailout();
-        for (int steps = 1; steps <= 6; steps++) {
-            for (int i = 0; i < step.length; i += 2) {
-                int index = (steps - 1) * 6 + i / 2;
-                CHECKS.due("emit of token " + index, machine.emit(step[i], step[i + 1]), index);
-                CHECKS.due("tokens() after it", machine.tokens(), index + 1);
+        for (boolean shortFirst : new boolean[] {true, false}) {
+            FixnumBailout machine = new FixnumBailout();
+            int want = 5;
+            for (int n = 101; n <= 104; n++) {
+                int[] shortStep = Programs.of(Ops.LOAD, 0, Ops.PUSH, n, Ops.ADD, 0, Ops.STORE, 0);
+                int[] longStep = Programs.of(
+                    Ops.PUSH, 2 * n, Ops.LOAD, 0, Ops.PUSH, 3, Ops.MUL, 0, Ops.SUB, 0, Ops.STORE, 0);
+                appendOneByOne(machine, shortFirst ? shortStep : longStep);
+                appendOneByOne(machine, shortFirst ? longStep : shortStep);
+                want = shortFirst ? 2 * n - 3 * (want + n) : 2 * n - 3 * want + n;
+                machine.set(0, 5);
+                CHECKS.due("run() of " + machine.tokens() + " tokens", machine.run(), FixnumBailout.DONE);
+                CHECKS.due("asInt(0) after it", machine.asInt(0), want);
             }
-            machine.set(0, 1);
-            CHECKS.due("run() of " + steps + " steps", machine.run(), FixnumBailout.DONE);
-            CHECKS.due("asInt(0) after it", machine.asInt(0), (2 << steps) - 1);
+            CHECKS.due("tokens() at the end", machine.tokens(), 40);
         }
-        Ops.emitAll(machine, Ops.PUSH, 5, Ops.STORE, 0);
-        CHECKS.due("run() with a last STORE", machine.run(), FixnumBailout.DONE);
-        CHECKS.due("asInt(0) after it", machine.asInt(0), 5);
+    }
+
+    private static void appendOneByOne(FixnumBailout machine, int... pairs) {
+        for (int i = 0; i < pairs.length; i += 2) {
+            int index = machine.tokens();
+            CHECKS.due("emit of token " + index, machine.emit(pairs[i], pairs[i + 1]), index);
+            CHECKS.due("tokens() after it", machine.tokens(), index + 1);
+        }
     }
 
     private static void badOp() {
